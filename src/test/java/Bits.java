@@ -2,6 +2,7 @@ import java.io.ByteArrayOutputStream;
 import java.util.ArrayList;
 import java.util.List;
 import java.util.TreeMap;
+import java.util.zip.Deflater;
 
 /** Writes packed bytes bit by bit, right or wrong ones. */
 final class Bits {
@@ -150,6 +151,21 @@ final class Bits {
             raw(words[r[0]]).number(r[1], r[2]);
         }
         return this;
+    }
+
+    /** Bytes as the library packs them. */
+    static byte[] deflated(byte[] bytes, int level, int strategy) {
+        Deflater deflater = new Deflater(level, true);
+        deflater.setStrategy(strategy);
+        deflater.setInput(bytes);
+        deflater.finish();
+        byte[] packed = new byte[400];
+        int n = 0;
+        for (int tries = 0; tries < 10 && !deflater.finished(); tries++) {
+            n += deflater.deflate(packed, n, packed.length - n);
+        }
+        deflater.end();
+        return java.util.Arrays.copyOf(packed, n);
     }
 
     byte[] bytes() {

@@ -2,7 +2,6 @@ import java.util.ArrayList;
 import java.util.Arrays;
 import java.util.List;
 import java.util.Random;
-import java.util.zip.Deflater;
 
 /** Promise 9: unpack. */
 public final class UnpackTest {
@@ -323,18 +322,9 @@ public final class UnpackTest {
             for (int i = 0; i < bytes.length; i++) {
                 bytes[i] = (byte) (random.nextInt(kinds) * random.nextInt(kinds));
             }
-            Deflater deflater = new Deflater(random.nextInt(10), true);
-            deflater.setStrategy(random.nextInt(3));
-            deflater.setInput(bytes);
-            deflater.finish();
-            byte[] packed = new byte[400];
-            int n = 0;
-            for (int tries = 0; tries < 10 && !deflater.finished(); tries++) {
-                n += deflater.deflate(packed, n, packed.length - n);
-            }
-            deflater.end();
-            if (n <= 200) {
-                gives("the library's packing", Arrays.copyOf(packed, n), bytes);
+            byte[] packed = Bits.deflated(bytes, random.nextInt(10), random.nextInt(3));
+            if (packed.length <= 200) {
+                gives("the library's packing", packed, bytes);
             }
         }
     }
