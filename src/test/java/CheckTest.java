@@ -22,6 +22,7 @@ public final class CheckTest {
         inCommon();
         behind();
         packedOnes();
+        cutPlain();
         sizesAndSums();
         whatIsFirst();
         due.finish();
@@ -259,6 +260,10 @@ public final class CheckTest {
             e.extras = Bytes.record(1, new Bytes().n(e.size, 7).all());
             e.size = -1;
         }));
+        checks("a record that is too short, and 0 behind", 2, one(e -> {
+            e.extras = new Bytes().n(1, 2).n(7, 2).n(e.size, 7).n(0, 4).all();
+            e.size = -1;
+        }));
         checks("a second number that lacks", 2, one(e -> {
             e.extras = Bytes.wides(e.size);
             e.size = -1;
@@ -404,6 +409,11 @@ public final class CheckTest {
         }));
         checks("one number alone", 3, one(e -> {
             e.localExtras = Bytes.wides(e.size);
+            e.localSize = -1;
+            e.localPackedSize = -1;
+        }));
+        checks("a number that is too short, and 0 behind", 3, one(e -> {
+            e.localExtras = new Bytes().n(1, 2).n(15, 2).n(e.size, 8).n(e.packedSize, 7).n(0, 4).all();
             e.localSize = -1;
             e.localPackedSize = -1;
         }));
@@ -556,6 +566,18 @@ public final class CheckTest {
         }));
         checks("packed bytes do not go on behind their end", 6,
             new Bytes().local(cutItem(n)).raw(Arrays.copyOfRange(e.content, n - 1, n)).directory("", cutItem(n)));
+    }
+
+    /** Packed bytes of which the last ones stand behind the entry. */
+    private static void cutPlain() {
+        byte[] plain = new Bits().plain(true, TEXT).bytes();
+        for (int n = 0; n < plain.length; n++) {
+            Bytes.Item e = new Bytes.Item("a", 8, false, TEXT, 0);
+            e.content = Arrays.copyOf(plain, n);
+            sizes(TEXT.length, n).accept(e);
+            byte[] rest = Arrays.copyOfRange(plain, n, plain.length);
+            checks("plain, " + n + " bytes of it", 6, new Bytes().local(e).raw(rest).directory("", e));
+        }
     }
 
     private static Bytes.Item cutItem(int n) {

@@ -16,6 +16,7 @@ public final class UnpackTest {
         wrongCodes();
         rowsOfLengths();
         ends();
+        lackAtTheLimit();
         againstTheLibrary();
         due.finish();
     }
@@ -57,6 +58,8 @@ public final class UnpackTest {
             .number(77, 8), new byte[] {77});
         gives("plain behind a coded one", new Bits().fixed(false).symbol(65).symbol(256)
             .plain(true, new byte[] {1}), new byte[] {65, 1});
+        gives("no bits to pass over", new Bits().fixed(false).text(new byte[] {-1, -1, -1}).symbol(256)
+            .plain(true, new byte[] {7}), new byte[] {-1, -1, -1, 7});
         wrong("plain, second number", new Bits().head(true, 0).align('0').number(1, 16).number(65535, 16)
             .number(77, 8));
         wrong("plain, second number is the first", new Bits().head(true, 0).align('0').number(1, 16)
@@ -119,6 +122,12 @@ public final class UnpackTest {
         wrong("200 and 1", new Bits().fixed(true).symbol(4).symbol(283).number(5, 5).distance(0).symbol(256));
         wrong("200, then a byte", new Bits().fixed(true).symbol(4).symbol(283).number(4, 5).distance(0)
             .symbol(4).symbol(256));
+        wrong("200, then a byte, up to the last bit", new Bits().fixed(true).text(new byte[] {-1, -1, -1}).symbol(283)
+            .number(2, 5).distance(0).symbol(255).symbol(256));
+        wrong("symbol 286 last", new Bits().fixed(true).symbol(1).symbol(286));
+        wrong("symbol 287 last", new Bits().fixed(true).symbol(1).symbol(287));
+        wrong("distance 30 last", new Bits().fixed(true).symbol(1).symbol(257).distance(30));
+        wrong("a distance too far last", new Bits().fixed(true).symbol(1).symbol(257).distance(3));
         wrong("258", new Bits().fixed(true).symbol(4).symbol(285).distance(0).symbol(256));
         wrong("258 by 284", new Bits().fixed(true).symbol(4).symbol(284).number(31, 5).distance(0).symbol(256));
     }
@@ -209,6 +218,10 @@ public final class UnpackTest {
         gives("own, then another", new Bits().own(false, lengths(257, 65, 1, 256, 1), lengths(1)).symbol(65)
             .symbol(256).own(true, lengths(257, 66, 3, 256, 2), lengths(1)).symbol(66).symbol(256),
             Due.text("AB"));
+        int[] long15 = lengths(257, 1, 1, 2, 2, 3, 3, 4, 4, 5, 5, 6, 6, 7, 7, 8, 8, 9, 9, 10, 10, 11, 11, 12, 12, 13, 13,
+            14, 14, 15, 15, 256, 15);
+        gives("words of 15 bits twice", new Bits().own(false, long15, lengths(1)).symbol(15).symbol(256)
+            .own(true, long15, lengths(1)).symbol(14).symbol(256), new byte[] {15, 14});
         gives("less lengths are told, the others are 0", new Bits().head(true, 2).number(0, 5).number(0, 5)
             .lengthsBy(lengths(19, 0, 2, 8, 2, 18, 1), 5, List.of(new int[] {18, 127, 7}, new int[] {18, 107, 7},
             new int[] {8, 0, 0}, new int[] {0, 0, 0})).use(lengths(257, 256, 8), lengths(1)).symbol(256),
@@ -291,6 +304,12 @@ public final class UnpackTest {
             .use(lengths(257, 255, 2, 256, 2), lengths(1)).symbol(256));
         wrong("zeros beyond the row", byRow(10, zeros(138), zeros(117), one(2), one(2), zeros(11))
             .use(lengths(257, 255, 2, 256, 2), lengths(1)).symbol(256));
+        wrong("zeros beyond the longest row", new Bits().head(true, 2).number(31, 5).number(31, 5)
+            .lengthsBy(Bits.fullLengthCode(), 19, List.of(zeros(138), zeros(118), one(1), zeros(62), zeros(138)))
+            .raw("0".repeat(40)));
+        wrong("again beyond the longest row", new Bits().head(true, 2).number(31, 5).number(31, 5)
+            .lengthsBy(Bits.fullLengthCode(), 19, List.of(zeros(138), zeros(118), one(1), zeros(62), again(6)))
+            .raw("0".repeat(40)));
         Bits cut = byRow(1, zeros(138), zeros(117), one(1));
         wrong("the row lacks", cut);
     }
@@ -298,6 +317,9 @@ public final class UnpackTest {
     private static void ends() {
         wrong("none", new byte[0]);
         wrong("one bit too few", new byte[] {3});
+        byte[] oneBitOver = new Bits().fixed(true).text(times(255, 7)).symbol(256).bytes();
+        gives("73 bits", oneBitOver, times(255, 7));
+        wrong("72 of 73 bits", Arrays.copyOf(oneBitOver, 9));
         gives("just the end", new byte[] {3, 0}, new byte[0]);
         gives("bits behind are any", new byte[] {3, (byte) 0xfc}, new byte[0]);
         wrong("a byte behind", new byte[] {3, 0, 0});
@@ -311,6 +333,33 @@ public final class UnpackTest {
         gives("right", right, Due.text("AAAAAAAAA"));
         for (int n = 0; n < right.length; n++) {
             wrong("cut to " + n, Arrays.copyOf(right, n));
+        }
+    }
+
+    /** Bits that lack behind the last byte that the buffer can have. */
+    private static void lackAtTheLimit() {
+        wrong("a block lacks", new Bits().plain(false, some(195)));
+        for (int kind = 0; kind < 4; kind++) {
+            wrong("kind " + kind, new Bits().plain(false, some(194)).head(true, kind));
+            wrong("kind " + kind + " in ones", new Bits().plain(false, some(194)).head(true, kind).align('1'));
+            for (int more = 1; more < 20; more++) {
+                wrong("kind " + kind + " and " + more + " bytes", new Bits().plain(false, some(194 - more))
+                    .head(true, kind).align('0').raw("0".repeat(8 * more - 8)).raw("1".repeat(8)));
+                wrong("kind " + kind + " and " + more + " ones", new Bits().plain(false, some(194 - more))
+                    .head(true, kind).align('1').raw("1".repeat(8 * more)));
+            }
+        }
+        Random random = new Random(9);
+        for (int round = 0; round < 2000; round++) {
+            byte[] bytes = new byte[200];
+            random.nextBytes(bytes);
+            bytes[0] = (byte) (bytes[0] & ~7 | round % 8);
+            ZipArray x = Due.holding(bytes);
+            try {
+                due.is("unpack gives out at most 200", x.unpack() <= 200);
+            } catch (ArithmeticException e) {
+                due.sameBytes("a throw leaves the buffer", Due.buffer(x), bytes);
+            }
         }
     }
 
