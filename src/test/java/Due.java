@@ -10,12 +10,22 @@ final class Due {
 
     private int asked = 0;
     private int wrong = 0;
+    private String sentence = "";
+
+    /** The words of the document that the answers from here on are of. */
+    void sentence(String words) {
+        sentence = words;
+    }
+
+    private void say(String text) {
+        wrong++;
+        System.out.println((sentence.isEmpty() ? "" : "'" + sentence + "': ") + text);
+    }
 
     void same(String what, long got, long want) {
         asked++;
         if (got != want) {
-            wrong++;
-            System.out.println(what + " answered " + got + ", due is " + want);
+            say(what + " answered " + got + ", due is " + want);
         }
     }
 
@@ -26,8 +36,7 @@ final class Due {
     void sameBytes(String what, byte[] got, byte[] want) {
         asked++;
         if (!java.util.Arrays.equals(got, want)) {
-            wrong++;
-            System.out.println(what + " is " + hex(got) + ", due is " + hex(want));
+            say(what + " is " + hex(got) + ", due is " + hex(want));
         }
     }
 
@@ -50,12 +59,10 @@ final class Due {
         asked++;
         try {
             long got = call.run();
-            wrong++;
-            System.out.println(what + " answered " + got + ", due is " + due.getSimpleName());
+            say(what + " answered " + got + ", due is " + due.getSimpleName());
         } catch (RuntimeException e) {
             if (e.getClass() != due) {
-                wrong++;
-                System.out.println(what + " threw " + e + ", due is " + due.getSimpleName());
+                say(what + " threw " + e + ", due is " + due.getSimpleName());
             }
         }
     }
@@ -102,8 +109,8 @@ final class Due {
 
     static void hold(ZipArray x, byte[] bytes) {
         x.clear();
-        for (byte b : bytes) {
-            x.give(b, 1);
+        for (int from = 0; from < bytes.length; from += 8) {
+            x.give(highestFirst(bytes, from), Math.min(8, bytes.length - from));
         }
     }
 
@@ -116,9 +123,34 @@ final class Due {
 
     static void lay(ZipArray x, byte[] bytes) {
         x.cut(0);
-        for (byte b : bytes) {
-            x.put(b, 1);
+        for (int from = 0; from < bytes.length; from += 8) {
+            x.put(highestFirst(bytes, from), Math.min(8, bytes.length - from));
         }
+    }
+
+    // Eight bytes by one call: an object is good for 512 calls, and a file has 1600 bytes.
+    private static long highestFirst(byte[] bytes, int from) {
+        long number = 0;
+        for (int i = from; i < from + 8 && i < bytes.length; i++) {
+            number = number << 8 | bytes[i] & 255;
+        }
+        return number;
+    }
+
+    /** So many bytes, one like the other. */
+    static byte[] times(int b, int n) {
+        byte[] all = new byte[n];
+        java.util.Arrays.fill(all, (byte) b);
+        return all;
+    }
+
+    /** So many bytes from low on, up to 112 of them each another one, in which nothing repeats. */
+    static byte[] noRepeats(int low, int n) {
+        byte[] all = new byte[n];
+        for (int i = 0; i < n; i++) {
+            all[i] = (byte) (low + (i < 112 ? i : 111 - 3 * (i - 112) % 112));
+        }
+        return all;
     }
 
     static byte[] text(String s) {
