@@ -151,6 +151,11 @@ public final class PackEdgesTest {
         for (int length = 3; length <= 199; length++) {
             packs("length " + length, Due.times(5, length + 1), repeat(begin().symbol(5), length, 1).symbol(256));
         }
+        byte[] four = Due.text("abcd".repeat(50));
+        for (int length = 3; length <= 196; length++) {
+            packs("length " + length + " at a distance of 4", Arrays.copyOf(four, length + 4),
+                repeat(begin().text(Arrays.copyOf(four, 4)), length, 4).symbol(256));
+        }
         packs("length 2", Due.times(5, 3), begin().symbol(5).symbol(5).symbol(5).symbol(256));
     }
 

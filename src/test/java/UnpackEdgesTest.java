@@ -65,6 +65,26 @@ public final class UnpackEdgesTest {
         due.throwsIt(what + ", in an entry", ArithmeticException.class, () -> y.load(97));
     }
 
+    /** Right bytes of which the last ones lack, while they still stand behind, in the buffer's room or in the file. */
+    private static void lacks(String what, byte[] all) {
+        due.answers(what + ", all of them", 0, () -> Math.min(0, Due.holding(all).unpack()));
+        for (int n = 0; n < all.length; n++) {
+            byte[] some = Arrays.copyOf(all, n);
+            wrong(what + ", " + n + " bytes of " + all.length, some);
+            ZipArray x = Due.holding(all);
+            Due.hold(x, some);
+            due.throwsIt(what + ", the others were there before", ArithmeticException.class, x::unpack);
+            due.sameBytes(what + ": a throw leaves the buffer", Due.buffer(x), some);
+            Bytes.Item e = new Bytes.Item("a", 0, false, new byte[0], 0);
+            e.method = 8;
+            e.content = some;
+            e.packedSize = n;
+            e.localPackedSize = n;
+            ZipArray y = Due.lying(new Bytes().local(e).raw(Arrays.copyOfRange(all, n, all.length)).directory("", e).all());
+            due.answers(what + ", the others stand behind", 6, y::check);
+        }
+    }
+
     private static byte[] entry(byte[] packed, byte[] content) {
         Bytes.Item e = new Bytes.Item("a", 0, false, content, 0);
         e.method = 8;
@@ -131,6 +151,9 @@ public final class UnpackEdgesTest {
         gives("kind 0", new Bits().plain(true, new byte[0]), new byte[0]);
         gives("kind 1", fixed().symbol(256), new byte[0]);
         gives("kind 2", new Bits().own(true, lengths(257, 256, 1), lengths(1)).symbol(256), new byte[0]);
+        wrong("kind 3, and no more", new Bits().head(true, 3));
+        wrong("kind 3, and 256 as by kind 1", new Bits().head(true, 3).symbol(256));
+        wrong("kind 3, and no bytes as by kind 0", new Bits().head(true, 3).align('0').number(0, 16).number(65535, 16));
         wrong("kind 3", new Bits().head(true, 3).raw("0".repeat(40)));
         wrong("kind 3, ones", new Bits().head(true, 3).raw("1".repeat(37)));
         wrong("kind 3 in the second block", new Bits().fixed(false).symbol(256).head(true, 3).raw("0".repeat(7)));
@@ -169,13 +192,10 @@ public final class UnpackEdgesTest {
 
     private static void plainBytes() {
         due.sentence("n bytes, which are given out");
-        for (int lacking = 1; lacking <= 3; lacking++) {
-            wrong("bytes lack: " + lacking, Arrays.copyOf(new Bits().plain(true, Due.noRepeats(7, 3)).bytes(),
-                8 - lacking));
+        for (int n : new int[] {0, 1, 3, 30}) {
+            lacks("plain bytes", new Bits().plain(true, Due.noRepeats(7, n)).bytes());
         }
-        for (int n = 1; n < 5; n++) {
-            wrong("the numbers lack: " + n, Arrays.copyOf(new Bits().plain(true, new byte[0]).bytes(), n));
-        }
+        lacks("plain bytes 0", new Bits().plain(true, new byte[9]).bytes());
         gives("bytes of two blocks", new Bits().plain(false, Due.text("ab")).plain(true, Due.text("cd")),
             Due.text("abcd"));
         gives("a coded block behind", new Bits().plain(false, Due.text("ab")).fixed(true).symbol(257).distance(1)
@@ -199,10 +219,12 @@ public final class UnpackEdgesTest {
         gives("one word of one bit", new Bits().own(true, lengths(257, 256, 1), lengths(1)).raw("0"), new byte[0]);
         gives("one word of 15 bits", new Bits().own(true, lengths(257, 256, 15), lengths(1)).raw("0".repeat(15)),
             new byte[0]);
-        wrong("the other word of one bit", new Bits().own(true, lengths(257, 256, 1), lengths(1)).raw("1")
-            .raw("0".repeat(20)));
-        wrong("the other word of 15 bits", new Bits().own(true, lengths(257, 256, 15), lengths(1))
-            .raw("0".repeat(14) + "1").raw("0".repeat(20)));
+        for (String more : new String[] {"", "0", "0".repeat(14), "0".repeat(15), "0".repeat(30)}) {
+            wrong("the other word of one bit, and " + more, new Bits().own(true, lengths(257, 256, 1), lengths(1)).raw("1")
+                .raw(more));
+            wrong("the other word of 15 bits, and " + more, new Bits().own(true, lengths(257, 256, 15), lengths(1))
+                .raw("0".repeat(14) + "1").raw(more));
+        }
     }
 
     private static void moreWordsThanThereCanBe() {
@@ -212,15 +234,14 @@ public final class UnpackEdgesTest {
         gives("symbols: the sum is 1", new Bits().own(true, full, lengths(1)).symbol(256), new byte[0]);
         int[] over = full.clone();
         over[257] = 15;
-        wrong("symbols: above by 2 to the -15", new Bits().own(true, over, lengths(1)).raw("1".repeat(60)));
-        wrong("symbols: above by 2 to the -15", new Bits().own(true, over, lengths(1)).raw("0".repeat(60)));
+        // 256 would still have its word, and end the block.
+        wrong("symbols: above by 2 to the -15", new Bits().own(true, over, lengths(1)).raw("1".repeat(15)));
         int[] twos = lengths(258, 1, 1, 256, 1);
         gives("symbols: two of length 1", new Bits().own(true, twos, lengths(1)).raw("0").raw("1"), new byte[] {1});
         for (int length = 1; length <= 15; length++) {
             int[] three = twos.clone();
             three[2] = length;
-            wrong("symbols: two of length 1, one of " + length, new Bits().own(true, three, lengths(1)).raw("01")
-                .raw("0".repeat(30)));
+            wrong("symbols: two of length 1, one of " + length, new Bits().own(true, three, lengths(1)).raw("01"));
         }
         int[] distances = lengths(17, 1, 1, 2, 2, 3, 3, 4, 4, 5, 5, 6, 6, 7, 7, 8, 8, 9, 9, 10, 10, 11, 11, 12, 12, 13, 13, 14,
             14, 15, 15, 16, 15);
@@ -345,7 +366,15 @@ public final class UnpackEdgesTest {
             gives(n + " times", byRow(257, 1, zeros(138), zeros(118 - n), one(3), again(n), one(0)).use(symbols, lengths(1))
                 .symbol(257 - n).symbol(256), new byte[] {(byte) (257 - n)});
         }
-        wrong("there is none before", byRow(257, 1, again(3), zeros(138), zeros(115), one(1), one(1)).raw("0".repeat(30)));
+        // All else is right, whether the one before is taken as 0 or as the last one of the block before.
+        wrong("there is none before", byRow(257, 1, again(3), zeros(138), zeros(115), one(1), one(1)).raw("0"));
+        for (String end : new String[] {"00", "11"}) {
+            wrong("there is none before, but in the block before", new Bits()
+                .own(false, lengths(257, 256, 2), lengths(1, 0, 2)).symbol(256).head(true, 2).number(0, 10)
+                .lengthsBy(Bits.fullLengthCode(), 19, List.of(again(3), zeros(138), zeros(115), one(2), one(0))).raw(end));
+        }
+        wrong("there is none before, and no more", new Bits().own(false, lengths(257, 256, 2), lengths(1)).symbol(256)
+            .head(true, 2).number(0, 10).lengthsBy(lengths(19, 16, 1, 18, 2), 4, List.of(again(6))));
         gives("one is before", byRow(257, 1, one(3), again(3), zeros(138), zeros(114), one(3), one(0))
             .use(lengths(257, 0, 3, 1, 3, 2, 3, 3, 3, 256, 3), lengths(1)).symbol(3).symbol(256), new byte[] {3});
         gives("the one before is 0", byRow(257, 1, one(0), again(3), zeros(138), zeros(114), one(3), one(0))
@@ -389,7 +418,7 @@ public final class UnpackEdgesTest {
             if (distances == 5) {
                 gives("17 up to the end", bits.symbol(256), new byte[0]);
             } else if (distances < 5) {
-                wrong("17 by " + (5 - distances) + " too far", bits.symbol(256).raw("1".repeat(20)));
+                wrong("17 by " + (5 - distances) + " too far", bits.symbol(256));
             }
         }
         for (int distances = 10; distances <= 12; distances++) {
@@ -410,8 +439,7 @@ public final class UnpackEdgesTest {
             wrong("16 by one too far", byRow(257, distances - 1, zeros(138), zeros(117), one(2), one(3), again(distances))
                 .use(two, all).symbol(256));
         }
-        wrong("too far behind 288 and 32", byRow(288, 32, zeros(138), zeros(118), one(1), zeros(61), one(0), again(3))
-            .raw("0".repeat(30)));
+        wrong("too far behind 288 and 32", byRow(288, 32, zeros(138), zeros(118), one(1), zeros(61), again(3)).raw("0"));
         gives("just 288 and 32", byRow(288, 32, zeros(138), zeros(118), one(1), zeros(60), again(3)).raw("0"),
             new byte[0]);
         wrong("one length lacks, and all bits with it", byRow(257, 1, zeros(138), zeros(118), one(1)));
@@ -547,6 +575,18 @@ public final class UnpackEdgesTest {
     private static void moreThan200() {
         due.sentence("WRONG are ... more than 200 bytes");
         int[] symbols = lengths(258, 1, 2, 256, 2, 257, 2);
+        for (int nines = 0; nines < 8; nines++) {
+            // The bytes beyond are the last but the end's word, at every place in a byte.
+            byte[] first = Due.noRepeats(144, nines);
+            byte[] all = Arrays.copyOf(first, 200);
+            Arrays.fill(all, nines, 200, (byte) 1);
+            gives("200 behind " + nines, new Bits().fixed(false).text(first).symbol(256).own(true, symbols, lengths(1, 0, 1))
+                .text(Due.times(1, 200 - nines)).symbol(256), all);
+            wrong("201 behind " + nines, new Bits().fixed(false).text(first).symbol(256).own(true, symbols, lengths(1, 0, 1))
+                .text(Due.times(1, 201 - nines)).symbol(256));
+            wrong("201 by a repeat behind " + nines, new Bits().fixed(false).text(first).symbol(256)
+                .own(true, symbols, lengths(1, 0, 1)).text(Due.times(1, 198 - nines)).symbol(257).distance(0).symbol(256));
+        }
         for (int n = 196; n <= 201; n++) {
             Bits bytes = new Bits().own(true, symbols, lengths(1, 0, 1)).text(Due.times(1, n)).symbol(256);
             Bits repeat = new Bits().own(true, symbols, lengths(1, 0, 1)).text(Due.times(1, n - 3)).symbol(257).distance(0)
@@ -576,11 +616,18 @@ public final class UnpackEdgesTest {
         int[] symbols = lengths(258, 1, 2, 256, 2, 257, 2);
         Bits word = new Bits().own(true, symbols, lengths(2, 0, 2, 1, 2));
         gives("words", word.symbol(1).symbol(257).raw("00").symbol(256), Due.times(1, 4));
-        wrong("no word of a symbol", new Bits().own(true, symbols, lengths(1)).symbol(1).raw("11").raw("0".repeat(30)));
-        wrong("no word of a distance", new Bits().own(true, symbols, lengths(2, 0, 2, 1, 2)).symbol(1).symbol(257)
-            .raw("10").raw("0".repeat(30)));
-        wrong("no word of a length", new Bits().head(true, 2).number(0, 5).number(0, 5)
-            .lengthsBy(lengths(19, 0, 2, 1, 2), 19, List.of(one(1))).raw("11").raw("0".repeat(600)));
+        for (int ones = 2; ones <= 15; ones++) {
+            String no = "1".repeat(ones);
+            wrong("no word of a symbol, by " + ones, new Bits().own(true, symbols, lengths(1)).symbol(1).raw(no).symbol(256));
+            wrong("no word of a distance, by " + ones, new Bits().own(true, symbols, lengths(2, 0, 2, 1, 2)).symbol(1)
+                .symbol(257).raw(no).symbol(256));
+            List<int[]> row = new ArrayList<>();
+            for (int i = 0; i < 257; i++) {
+                row.add(one(i == 256 ? 1 : 0));
+            }
+            wrong("no word of a length, by " + ones, new Bits().head(true, 2).number(0, 10)
+                .lengthsBy(lengths(19, 0, 2, 1, 2), 19, row).raw(no).raw("0"));
+        }
         wrong("a code without words", new Bits().own(true, lengths(257), lengths(1)).raw("0".repeat(40)));
     }
 
@@ -590,17 +637,27 @@ public final class UnpackEdgesTest {
         int[] distances = lengths(6, 0, 1, 5, 1);
         Bits own = new Bits().own(true, symbols, distances).text(new byte[] {1, 2, 1, 2, 2, 1, 1, 1}).symbol(265).number(1, 1)
             .distance(5).number(1, 1).symbol(256);
-        byte[] all = own.bytes();
         gives("all of them", own, new byte[] {1, 2, 1, 2, 2, 1, 1, 1, 1, 2, 1, 2, 2, 1, 1, 1, 1, 2, 1, 2});
-        for (int n = 0; n < all.length; n++) {
-            wrong(n + " bytes of " + all.length, Arrays.copyOf(all, n));
-        }
-        byte[] fixed = fixed().text(Due.noRepeats(200, 30)).symbol(256).bytes();
-        for (int n = 0; n < fixed.length; n++) {
-            wrong("kind 1: " + n + " bytes of " + fixed.length, Arrays.copyOf(fixed, n));
-        }
+        lacks("kind 2", own.bytes());
+        lacks("kind 1", fixed().text(Due.noRepeats(200, 30)).symbol(256).bytes());
+        lacks("kind 1, repeats", fixed().text(Due.text("abcdefghi")).symbol(269).number(3, 2).distance(5).number(1, 1)
+            .symbol(273).number(7, 3).distance(6).number(0, 2).symbol(256).bytes());
+        lackBehind200();
         for (int nines = 0; nines < 8; nines++) {
             lackInTheLastByte(nines);
+        }
+    }
+
+    /** As many packed bytes as the buffer can have, and bits lack behind them. */
+    private static void lackBehind200() {
+        wrong("a block", new Bits().plain(false, Due.noRepeats(0, 195)));
+        for (int more = 1; more <= 5; more++) {
+            wrong("bytes of kind 0, " + more, Arrays.copyOf(new Bits().plain(false, Due.noRepeats(0, 195 - more))
+                .plain(true, Due.times(1, 100)).bytes(), 200));
+            wrong("bits of kind 2, " + more, Arrays.copyOf(new Bits().plain(false, Due.noRepeats(0, 195 - more))
+                .own(true, lengths(257, 1, 1, 256, 1), lengths(1)).bytes(), 200));
+            wrong("bits of kind 1, " + more, Arrays.copyOf(new Bits().plain(false, Due.noRepeats(0, 195 - more)).fixed(true)
+                .symbol(284).number(31, 5).distance(29).number(8191, 13).symbol(256).bytes(), 200));
         }
     }
 

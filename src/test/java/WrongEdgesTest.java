@@ -336,6 +336,8 @@ public final class WrongEdgesTest {
         checks("a remark of one less", 2, poked(right, PART + 32, 1));
         checks("a remark of one more", 2, poked(right, PART + 32, 3));
         checks("a remark of 256 more", 2, poked(right, PART + 33, 1));
+        checks("a name of 256 more", 2, poked(right, PART + 29, 1));
+        checks("extras of 256 more", 2, poked(right, PART + 31, 1));
         checks("a name of one more", 2, poked(right, PART + 28, 2, PART + 32, 2));
         checks("extras of one more", 2, poked(right, PART + 30, 1));
         checks("all lengths are 65535", 2, poked(right, PART + 28, 255, PART + 29, 255, PART + 30, 255, PART + 31, 255,
@@ -381,7 +383,7 @@ public final class WrongEdgesTest {
     private static void extrasAreRecords() {
         due.sentence("its extras are no whole records");
         for (int data : new int[] {0, 1, 2, 5, 255, 256}) {
-            byte[] record = Bytes.record(7, new byte[data]);
+            byte[] record = Bytes.record(7, Due.times(255, data));
             checks("a record of " + data, 0, one(e -> e.extras = record));
             checks("two of " + data, 0, one(e -> e.extras = new Bytes().raw(record).raw(record).all()));
             checks("one byte lacks", 2, one(e -> e.extras = Arrays.copyOf(record, record.length - 1)));
@@ -477,12 +479,29 @@ public final class WrongEdgesTest {
             e.size = -1;
             e.packedSize = -1;
         }));
+        checks("none is there, but in the part before", 2, Bytes.archive("", wideWithMore(), needing("b", PART)));
+        checks("none is there, but in the part behind", 2, Bytes.archive("", needing("b", 0), stored("c", PART).widened()));
         for (int kind : new int[] {0, 2, 256, 257, 65535}) {
             checks("of kind " + kind, 2, one(e -> {
                 e.extras = Bytes.record(kind, new Bytes().n(e.size, 8).all());
                 e.size = -1;
             }));
         }
+    }
+
+    /** An entry whose size is wide, and told by a record that goes on with numbers that would do for others. */
+    private static Bytes.Item wideWithMore() {
+        Bytes.Item e = stored("a", 0);
+        e.extras = Bytes.wides(e.size, TEXT.length, TEXT.length, TEXT.length);
+        e.size = -1;
+        return e;
+    }
+
+    /** An entry whose size is wide and told by nobody. */
+    private static Bytes.Item needing(String name, int offset) {
+        Bytes.Item e = stored(name, offset);
+        e.size = -1;
+        return e;
     }
 
     private static void theOrderOfWideNumbers() {
@@ -730,6 +749,13 @@ public final class WrongEdgesTest {
                 .raw(Bytes.record(1, some)).raw(Bytes.record(0, new byte[0])).all())));
         }
         checks("no extras", 3, one(packed("a", 0), wideLocal(new byte[0])));
+        Bytes.Item inContent = new Bytes.Item("a", 0, false, new Bytes().n(16, 8).n(16, 8).all(), 0).widened();
+        inContent.localExtras = new byte[0];
+        checks("no extras, and the numbers stand in the content", 3, Bytes.archive("", inContent));
+        inContent.localExtras = Bytes.record(9, new byte[2]);
+        checks("no record of kind 1, and the numbers stand in the content", 3, Bytes.archive("", inContent));
+        inContent.localExtras = Bytes.record(1, new byte[0]);
+        checks("an empty record of kind 1, and the numbers stand in the content", 3, Bytes.archive("", inContent));
         checks("of kind 2", 3, one(packed("a", 0), wideLocal(Bytes.record(2, new Bytes().n(n, 8).n(p, 8).all()))));
         checks("the first of kind 1 counts", 3, one(packed("a", 0), wideLocal(new Bytes().raw(Bytes.wides(1, 1))
             .raw(Bytes.wides(n, p)).all())));
@@ -759,7 +785,7 @@ public final class WrongEdgesTest {
     private static void localExtras() {
         due.sentence("EXTRAS are records, 2: kind; 2: how many bytes; these");
         for (int data : new int[] {0, 1, 4, 256}) {
-            byte[] record = Bytes.record(3, new byte[data]);
+            byte[] record = Bytes.record(3, Due.times(255, data));
             checks("a record of " + data, 0, one(e -> e.localExtras = record));
             checks("a record of " + data + " with flags 8", 0, one(later("a", 0), e -> e.localExtras = record));
             checks("one byte lacks", 3, one(e -> e.localExtras = Arrays.copyOf(record, record.length - 1)));
