@@ -1129,8 +1129,9 @@ public final class ZipArray {
                     return false;
                 }
                 int length = symbol < 16 ? symbol : symbol == 16 ? lengths[done - 1] : 0;
-                int times = timesOf(symbol);
-                if (times == NONE || times > n - done) {
+                int more = takeBits(symbol < 16 ? 0 : symbol == 16 ? 2 : symbol == 17 ? 3 : 7);
+                int times = more + (symbol < 16 ? 1 : symbol == 18 ? 11 : 3);
+                if (more == NONE || times > n - done) {
                     return false;
                 }
                 for (int i = 0; i < times; i++) {
@@ -1139,17 +1140,6 @@ public final class ZipArray {
                 done += times;
             }
             return done == n;
-        }
-
-        private int timesOf(int symbol) {
-            if (symbol < 16) {
-                return 1;
-            }
-            int more = takeBits(symbol == 16 ? 2 : symbol == 17 ? 3 : 7);
-            if (more == NONE) {
-                return NONE;
-            }
-            return symbol == 18 ? 11 + more : 3 + more;
         }
 
         private boolean codedBlock() {

@@ -40,9 +40,9 @@ public final class ArchiveEdgesTest {
     }
 
     /** An archive of so many entries, "a", "b" .., and something in the buffer. */
-    private static Supplier<ZipArray> entries(int n) {
+    private static Supplier<Zip> entries(int n) {
         return () -> {
-            ZipArray x = Due.holding(TEXT);
+            Zip x = Due.holding(TEXT);
             x.create();
             for (int i = 0; i < n; i++) {
                 x.add(97 + i, i % 2 * 8, i % 3 == 0);
@@ -52,8 +52,8 @@ public final class ArchiveEdgesTest {
     }
 
     /** A file without entries in which these bytes stand before the end. */
-    private static ZipArray junk(int bytes, String remark) {
-        ZipArray x = Due.lying(new Bytes().raw(Due.times(1, bytes)).end(0, 0, bytes, remark).all());
+    private static Zip junk(int bytes, String remark) {
+        Zip x = Due.lying(new Bytes().raw(Due.times(1, bytes)).end(0, 0, bytes, remark).all());
         Due.hold(x, TEXT);
         return x;
     }
@@ -66,8 +66,8 @@ public final class ArchiveEdgesTest {
         byte[] full = Due.times(7, 1600);
         byte[] fullTwo = new Bytes().raw(new byte[1578]).end(0, 1, 1578, "").all();
         for (byte[] file : new byte[][] {{}, Arrays.copyOf(right, right.length - 1), two, full, fullTwo}) {
-            Supplier<ZipArray> made = () -> {
-                ZipArray x = Due.lying(file);
+            Supplier<Zip> made = () -> {
+                Zip x = Due.lying(file);
                 x.fill(5, 200);
                 return x;
             };
@@ -81,7 +81,7 @@ public final class ArchiveEdgesTest {
                 .of("it comes first: remove, no name", UnsupportedOperationException.class, x -> x.remove(0))
                 .of("load", UnsupportedOperationException.class, x -> x.load(97))
                 .of("it comes first: load, no name", UnsupportedOperationException.class, x -> x.load(0))
-                .of("count", UnsupportedOperationException.class, ZipArray::count)
+                .of("count", UnsupportedOperationException.class, Zip::count)
                 .of("about", UnsupportedOperationException.class, x -> x.about(0, 0))
                 .of("it comes first: about, no entry", UnsupportedOperationException.class, x -> x.about(-1, 0))
                 .of("it comes first: about, nothing", UnsupportedOperationException.class, x -> x.about(0, 7))
@@ -89,7 +89,7 @@ public final class ArchiveEdgesTest {
         }
         due.sentence("UnsupportedOperationException: of the archive 1 or 2 is wrong, and not 3 to 8");
         for (int k : new int[] {0, 31}) {
-            ZipArray x = entries(2).get();
+            Zip x = entries(2).get();
             x.poke(k, 0);
             due.same("wrong by", x.check(), k == 0 ? 3 : 8);
             due.answers("count", 2, x::count);
@@ -106,7 +106,7 @@ public final class ArchiveEdgesTest {
         byte[] end = new Bytes().end(0, 0, 0, "").all();
         byte[] wide = new Bytes().wideBefore(0, 0, 0).end(65535, -1, -1, "").all();
         for (int n : new int[] {0, 21, 22, 97, 98, 1600}) {
-            ZipArray x = Due.lying(Due.times(9, n));
+            Zip x = Due.lying(Due.times(9, n));
             x.fill(4, 7);
             x.create();
             due.sameBytes("behind " + n + " bytes", Due.file(x), end);
@@ -123,11 +123,11 @@ public final class ArchiveEdgesTest {
             due.sameBytes("not wide again", Due.file(x), end);
             due.same("not wide again", x.check(), 0);
         }
-        ZipArray y = entries(8).get();
+        Zip y = entries(8).get();
         y.create();
         due.sameBytes("in place of eight entries", Due.file(y), end);
         due.same("count", y.count(), 0);
-        ZipArray z = junk(5, "remark");
+        Zip z = junk(5, "remark");
         z.create();
         due.sameBytes("no remark", Due.file(z), end);
     }
@@ -143,12 +143,12 @@ public final class ArchiveEdgesTest {
     private static void wideEnds() {
         due.sentence("an end with wide offset, both counts 65535, and the size of the directory -1");
         Bytes.Item a = item("a", TEXT, 0);
-        ZipArray x = Due.lying(Bytes.archive("rem", a));
+        Zip x = Due.lying(Bytes.archive("rem", a));
         x.wide(true);
         due.sameBytes("wide changes nothing yet", Due.file(x), Bytes.archive("rem", a));
         due.same("remove", x.remove(97), 0);
         due.sameBytes("the end of an empty directory", Due.file(x), wideArchive(new Bytes().local(a), "rem"));
-        ZipArray y = Due.lying(Bytes.archive("rem", a));
+        Zip y = Due.lying(Bytes.archive("rem", a));
         y.wide(true);
         Due.hold(y, TEXT);
         due.same("add with flags 8", y.add(98, 0, true), 2);
@@ -163,7 +163,7 @@ public final class ArchiveEdgesTest {
         for (int method : new int[] {0, 8}) {
             for (byte[] content : new byte[][] {{}, TEXT, Due.times(200, 200)}) {
                 for (String name : new String[] {"!", "~~", "abc"}) {
-                    ZipArray x = Due.holding(content);
+                    Zip x = Due.holding(content);
                     x.create();
                     x.wide(true);
                     due.same("add", x.add(Due.name(name), method, false), 1);
@@ -178,7 +178,7 @@ public final class ArchiveEdgesTest {
                     x.clear();
                     due.same("load", x.load(Due.name(name)), content.length);
                     due.sameBytes("load", Due.buffer(x), content);
-                    ZipArray y = Due.holding(content);
+                    Zip y = Due.holding(content);
                     y.wide(true);
                     y.create();
                     due.same("add with flags 8", y.add(Due.name(name), method, true), 1);
@@ -192,7 +192,7 @@ public final class ArchiveEdgesTest {
 
     private static void wideFromNowOn() {
         due.sentence("Whether ends, and entries with flags 0, are written wide from now on");
-        ZipArray x = Due.holding(TEXT);
+        Zip x = Due.holding(TEXT);
         x.create();
         x.add(97, 0, false);
         x.wide(true);
@@ -221,7 +221,7 @@ public final class ArchiveEdgesTest {
 
     private static void addHowMany() {
         due.sentence("Puts the buffer as an entry into the archive ...: how many entries there are");
-        ZipArray x = Due.holding(TEXT);
+        Zip x = Due.holding(TEXT);
         x.create();
         for (int i = 1; i <= 8; i++) {
             due.same("add", x.add(96 + i, 0, false), i);
@@ -237,7 +237,7 @@ public final class ArchiveEdgesTest {
     private static void addInPlace() {
         due.sentence("in place of the one with this name, if there is one");
         for (int name : new int[] {97, 98, 99}) {
-            ZipArray x = entries(3).get();
+            Zip x = entries(3).get();
             byte[] before = Due.file(x);
             int start = before.length - 22 - 3 * 47;
             Due.hold(x, Due.text("new"));
@@ -249,7 +249,7 @@ public final class ArchiveEdgesTest {
             due.same("load", x.load(name), 3);
             due.same("check", x.check(), 0);
         }
-        ZipArray y = entries(1).get();
+        Zip y = entries(1).get();
         due.same("a name that begins in the same way", y.add(0x6161, 0, false), 2);
         due.same("a name that ends in the same way", y.add(0x6261, 0, false), 3);
         due.same("the same name", y.add(0x6161, 0, false), 3);
@@ -260,7 +260,7 @@ public final class ArchiveEdgesTest {
         due.sentence("The file keeps its bytes up to the directory's beginning; ... then an end with the remark that was there");
         for (String remark : new String[] {"", "r", "a long remark, ".repeat(12)}) {
             for (boolean wide : new boolean[] {false, true}) {
-                ZipArray x = junk(9, remark);
+                Zip x = junk(9, remark);
                 x.wide(wide);
                 due.same("add", x.add(97, 0, true), 1);
                 Bytes.Item a = new Bytes.Item("a", 0, true, TEXT, 9);
@@ -276,7 +276,7 @@ public final class ArchiveEdgesTest {
         for (int i = 4; i < 8; i++) {
             old[end + i] = 9;
         }
-        ZipArray x = Due.lying(old);
+        Zip x = Due.lying(old);
         due.same("check", x.check(), 0);
         due.same("add", x.add(98, 0, false), 2);
         Bytes.Item b = item("b", new byte[0], 31 + TEXT.length);
@@ -289,7 +289,7 @@ public final class ArchiveEdgesTest {
             for (int method : new int[] {0, 8}) {
                 for (boolean later : new boolean[] {false, true}) {
                     byte[] content = Due.noRepeats(144, n);
-                    ZipArray x = Due.holding(content);
+                    Zip x = Due.holding(content);
                     x.create();
                     due.answers("add of " + n, 1, () -> x.add(97, method, later));
                     due.same("size", x.about(0, 5), n);
@@ -309,7 +309,7 @@ public final class ArchiveEdgesTest {
     private static void addNames() {
         due.sentence("a NAME (1 .. 3 bytes 33 .. 126; ...); IllegalArgumentException: the name is none");
         for (int name : new int[] {33, 126, 33 << 8 | 33, 126 << 8 | 126, 33 << 8 | 126, 0x212121, 0x7e7e7e, 0x217e21}) {
-            ZipArray x = entries(0).get();
+            Zip x = entries(0).get();
             due.answers("name " + name, 1, () -> x.add(name, 0, false));
             due.answers("name " + name, name, () -> x.about(0, 0));
             int bytes = name > 0xffff ? 3 : name > 0xff ? 2 : 1;
@@ -355,7 +355,7 @@ public final class ArchiveEdgesTest {
             eight.of("the ninth with flags 8", IllegalStateException.class, x -> x.add(105, method, true));
         }
         new Refusal(due, () -> {
-            ZipArray x = entries(8).get();
+            Zip x = entries(8).get();
             x.clear();
             x.wide(true);
             return x;
@@ -364,7 +364,7 @@ public final class ArchiveEdgesTest {
             int name = 97 + i;
             due.answers("in place of one of eight", 8, () -> entries(8).get().add(name, 0, false));
         }
-        ZipArray y = entries(8).get();
+        Zip y = entries(8).get();
         y.remove(100);
         due.answers("one less, one more", 8, () -> y.add(0x7878, 0, false));
     }
@@ -391,8 +391,8 @@ public final class ArchiveEdgesTest {
         int part = 46 + name.length() + (wide && !later ? 28 : 0);
         int before = 1600 - local - part - (wide ? 98 : 22) - remark.length();
         String what = name + " " + method + " " + later + " " + wide + " " + remark;
-        Supplier<ZipArray> just = () -> wide(junk(before, remark), wide);
-        ZipArray x = just.get();
+        Supplier<Zip> just = () -> wide(junk(before, remark), wide);
+        Zip x = just.get();
         due.answers("just 1600: " + what, 1, () -> x.add(Due.name(name), method, later));
         due.same("length: " + what, x.length(), 1600);
         due.same("check: " + what, x.check(), 0);
@@ -400,7 +400,7 @@ public final class ArchiveEdgesTest {
             y -> y.add(Due.name(name), method, later));
     }
 
-    private static ZipArray wide(ZipArray x, boolean is) {
+    private static Zip wide(Zip x, boolean is) {
         x.wide(is);
         return x;
     }
@@ -410,13 +410,13 @@ public final class ArchiveEdgesTest {
         Bytes.Item a = item("a", TEXT, 0);
         for (int over = 0; over <= 1; over++) {
             byte[] junk = Due.times(3, 1600 - 2 * (31 + TEXT.length) - 47 - 22 + over);
-            Supplier<ZipArray> made = () -> {
-                ZipArray x = Due.lying(new Bytes().local(a).raw(junk).directory("", a).all());
+            Supplier<Zip> made = () -> {
+                Zip x = Due.lying(new Bytes().local(a).raw(junk).directory("", a).all());
                 Due.hold(x, TEXT);
                 return x;
             };
             if (over == 0) {
-                ZipArray x = made.get();
+                Zip x = made.get();
                 due.answers("just 1600 in place", 1, () -> x.add(97, 0, false));
                 due.same("length", x.length(), 1600);
                 due.same("check", x.check(), 0);
@@ -430,7 +430,7 @@ public final class ArchiveEdgesTest {
         due.sentence("Takes an entry out of the directory, which is written anew at its place, and an end behind it");
         for (int n = 1; n <= 8; n++) {
             for (int k = 0; k < n; k++) {
-                ZipArray x = entries(n).get();
+                Zip x = entries(n).get();
                 byte[] before = Due.file(x);
                 int start = before.length - 22 - 47 * n;
                 due.same("remove " + k + " of " + n, x.remove(97 + k), n - 1);
@@ -456,7 +456,7 @@ public final class ArchiveEdgesTest {
         due.answers("the first", 1, () -> entries(2).get().remove(97));
         due.answers("the last", 1, () -> entries(2).get().remove(98));
         new Refusal(due, () -> {
-            ZipArray x = entries(2).get();
+            Zip x = entries(2).get();
             x.remove(97);
             return x;
         }).of("one that is gone", NoSuchElementException.class, x -> x.remove(97));
@@ -469,13 +469,13 @@ public final class ArchiveEdgesTest {
             for (int over = -1; over <= 1; over++) {
                 // What goes is a part of 47 bytes, what comes are 76 before the end.
                 byte[] junk = Due.times(3, 1600 - 31 - TEXT.length - 98 - remark.length() + over);
-                Supplier<ZipArray> made = () -> {
-                    ZipArray x = Due.lying(new Bytes().local(a).raw(junk).directory(remark, a).all());
+                Supplier<Zip> made = () -> {
+                    Zip x = Due.lying(new Bytes().local(a).raw(junk).directory(remark, a).all());
                     Due.hold(x, TEXT);
                     x.wide(true);
                     return x;
                 };
-                ZipArray x = made.get();
+                Zip x = made.get();
                 if (over <= 0) {
                     due.answers("just 1600", 0, () -> x.remove(97));
                     due.same("length", x.length(), 1600 + over);
@@ -494,7 +494,7 @@ public final class ArchiveEdgesTest {
         due.sentence("The buffer becomes the content of an entry: how many bytes");
         for (int n : new int[] {0, 1, 199, 200}) {
             for (int held : new int[] {0, 200}) {
-                ZipArray x = Due.holding(Due.noRepeats(100, n));
+                Zip x = Due.holding(Due.noRepeats(100, n));
                 x.create();
                 x.add(97, 0, false);
                 x.add(98, 8, true);
@@ -515,7 +515,7 @@ public final class ArchiveEdgesTest {
         due.sentence("NoSuchElementException: there is none of that name");
         Refusal few = new Refusal(due, entries(2));
         Refusal wrong = new Refusal(due, () -> {
-            ZipArray x = entries(2).get();
+            Zip x = entries(2).get();
             x.poke(0, 0);
             x.poke(40, 0);
             return x;
@@ -540,8 +540,8 @@ public final class ArchiveEdgesTest {
         int[][] turns = {{second, 0, 103}, {second + 6, 0, 103}, {second + 31, right[second + 31] | 6, 106},
             {behind, 0, 105}, {behind + 12, TEXT.length + 1, 105}};
         for (int[] turn : turns) {
-            Supplier<ZipArray> made = () -> {
-                ZipArray x = Due.lying(right);
+            Supplier<Zip> made = () -> {
+                Zip x = Due.lying(right);
                 x.fill(9, 9);
                 x.poke(turn[0], turn[1] & 255);
                 return x;
@@ -558,8 +558,8 @@ public final class ArchiveEdgesTest {
         int[] codes = {107, 108, 104};
         for (int i = 0; i < more.length; i++) {
             int[][] turn = more[i];
-            Supplier<ZipArray> made = () -> {
-                ZipArray x = Due.lying(right);
+            Supplier<Zip> made = () -> {
+                Zip x = Due.lying(right);
                 x.fill(9, 9);
                 x.poke(turn[0][0], turn[0][1] & 255);
                 x.poke(turn[1][0], turn[1][1] & 255);
@@ -569,7 +569,7 @@ public final class ArchiveEdgesTest {
             new Refusal(due, made).of("load of one that is wrong by " + codes[i], ArithmeticException.class,
                 x -> x.load(98));
         }
-        ZipArray first = Due.lying(right);
+        Zip first = Due.lying(right);
         first.poke(0, 0);
         due.same("wrong by", first.check(), 3);
         due.throwsIt("the first is wrong", ArithmeticException.class, () -> first.load(97));
@@ -581,7 +581,7 @@ public final class ArchiveEdgesTest {
         for (int n = 0; n <= 8; n++) {
             due.same("count", entries(n).get().count(), n);
         }
-        ZipArray x = entries(8).get();
+        Zip x = entries(8).get();
         for (int n = 7; n >= 0; n--) {
             x.remove(97 + n);
             due.same("count", x.count(), n);
@@ -602,7 +602,7 @@ public final class ArchiveEdgesTest {
                 due.answers("entry " + k + " of " + n, 97 + k, () -> entries(n).get().about(one, 0));
             }
         }
-        ZipArray x = entries(8).get();
+        Zip x = entries(8).get();
         x.remove(97);
         due.answers("the last of seven", 104, () -> x.about(6, 0));
         due.throwsIt("one that was there before", IndexOutOfBoundsException.class, () -> x.about(7, 0));
@@ -610,7 +610,7 @@ public final class ArchiveEdgesTest {
 
     private static void aboutNothing() {
         due.sentence("its name (0), ..., offset (6). IllegalArgumentException: what is none of these");
-        ZipArray x = entries(2).get();
+        Zip x = entries(2).get();
         due.answers("0", 98, () -> x.about(1, 0));
         due.answers("6", 31 + TEXT.length + 16, () -> x.about(1, 6));
         Refusal two = new Refusal(due, entries(2));

@@ -25,11 +25,12 @@ public final class ArchiveTest {
         about();
         noArchive();
         theLibraryReadsIt();
+        asTheReadmeSays();
         due.finish();
     }
 
     private static void create() {
-        ZipArray x = new ZipArray();
+        Zip x = new Zip();
         x.fill(3, 4);
         x.create();
         due.sameBytes("create", Due.file(x), new Bytes().end(0, 0, 0, "").all());
@@ -54,7 +55,7 @@ public final class ArchiveTest {
     }
 
     private static void wide() {
-        ZipArray x = Due.holding(HELLO);
+        Zip x = Due.holding(HELLO);
         x.create();
         x.wide(true);
         due.same("wide leaves the file", x.length(), 22);
@@ -94,7 +95,7 @@ public final class ArchiveTest {
         for (int method = 0; method <= 8; method += 8) {
             for (boolean later : new boolean[] {false, true}) {
                 for (String name : new String[] {"a", "!~", "xyz"}) {
-                    ZipArray x = Due.holding(HELLO);
+                    Zip x = Due.holding(HELLO);
                     x.create();
                     due.same("add", x.add(Due.name(name), method, later), 1);
                     Bytes.Item e = new Bytes.Item(name, method, later, HELLO, 0);
@@ -104,7 +105,7 @@ public final class ArchiveTest {
                 }
             }
         }
-        ZipArray x = new ZipArray();
+        Zip x = new Zip();
         x.create();
         due.same("add of nothing", x.add(97, 0, false), 1);
         due.same("add of nothing, packed", x.add(98, 8, true), 2);
@@ -114,7 +115,7 @@ public final class ArchiveTest {
     }
 
     private static void addInPlaceOfAnother() {
-        ZipArray x = Due.holding(HELLO);
+        Zip x = Due.holding(HELLO);
         x.create();
         x.add(97, 0, false);
         x.add(98, 8, false);
@@ -143,7 +144,7 @@ public final class ArchiveTest {
         old[start + 4] = 20;
         old[start + 12] = 77;
         old[start + 36] = 1;
-        ZipArray x = Due.lying(old);
+        Zip x = Due.lying(old);
         due.same("check", x.check(), 0);
         x.give(0x4142, 2);
         due.same("add", x.add(98, 0, false), 2);
@@ -159,28 +160,28 @@ public final class ArchiveTest {
     private static void addNames() {
         for (int name : new int[] {0, -1, 32, 127, 33 << 8, 33 << 8 | 32, 32 << 8 | 33, 127 << 8 | 33, 0x216100,
             0x210061, 0x7f6161, 0x206161, 0x21212121, 0x61000000, 0x01616161, Integer.MIN_VALUE, Integer.MAX_VALUE}) {
-            ZipArray x = new ZipArray();
+            Zip x = new Zip();
             x.create();
             due.throwsIt("name " + name, IllegalArgumentException.class, () -> x.add(name, 0, false));
             due.same("a throw leaves the file", x.length(), 22);
         }
         for (int name : new int[] {33, 126, 33 << 8 | 33, 126 << 8 | 126, 0x212121, 0x7e7e7e, 0x61217e}) {
-            ZipArray x = new ZipArray();
+            Zip x = new Zip();
             x.create();
             due.answers("name " + name, 1, () -> x.add(name, 0, false));
             due.answers("name told", name, () -> x.about(0, 0));
         }
         for (int method : new int[] {-1, 1, 7, 9, 8 << 8, Integer.MIN_VALUE, Integer.MAX_VALUE}) {
-            ZipArray x = new ZipArray();
+            Zip x = new Zip();
             x.create();
             due.throwsIt("method " + method, IllegalArgumentException.class, () -> x.add(97, method, false));
         }
-        ZipArray none = new ZipArray();
+        Zip none = new Zip();
         due.throwsIt("no archive is told first", UnsupportedOperationException.class, () -> none.add(0, 1, false));
     }
 
     private static void addLimits() {
-        ZipArray x = new ZipArray();
+        Zip x = new Zip();
         x.create();
         for (int i = 0; i < 8; i++) {
             due.same("add " + i, x.add(97 + i, 0, false), i + 1);
@@ -195,7 +196,7 @@ public final class ArchiveTest {
         for (int over = 0; over <= 1; over++) {
             // 31 bytes and 10 of content, 47 of the directory, 22 of the end.
             byte[] junk = new byte[1600 - 110 + over];
-            ZipArray y = Due.lying(new Bytes().raw(junk).end(0, 0, junk.length, "").all());
+            Zip y = Due.lying(new Bytes().raw(junk).end(0, 0, junk.length, "").all());
             y.fill(1, 10);
             byte[] old = Due.file(y);
             if (over == 0) {
@@ -210,7 +211,7 @@ public final class ArchiveTest {
         }
         for (int over = 0; over <= 1; over++) {
             byte[] junk = new byte[1600 - 51 - 10 - 75 - 98 - 3 + over];
-            ZipArray y = Due.lying(new Bytes().raw(junk).end(0, 0, junk.length, "xyz").all());
+            Zip y = Due.lying(new Bytes().raw(junk).end(0, 0, junk.length, "xyz").all());
             y.fill(1, 10);
             y.wide(true);
             if (over == 0) {
@@ -221,7 +222,7 @@ public final class ArchiveTest {
                 due.throwsIt("1601, wide", IllegalStateException.class, () -> y.add(97, 0, false));
             }
         }
-        ZipArray z = new ZipArray();
+        Zip z = new Zip();
         for (int i = 0; i < 200; i++) {
             z.give(144 + i * (i < 112 ? 61 : 45) % 112, 1);
         }
@@ -237,7 +238,7 @@ public final class ArchiveTest {
     }
 
     private static void remove() {
-        ZipArray x = Due.holding(HELLO);
+        Zip x = Due.holding(HELLO);
         x.create();
         x.add(97, 0, false);
         x.add(98, 8, true);
@@ -266,7 +267,7 @@ public final class ArchiveTest {
 
         a.remark = "of a";
         c.extras = Bytes.record(9, Due.text("z"));
-        ZipArray y = Due.lying(Bytes.archive("good bye", a, b, c));
+        Zip y = Due.lying(Bytes.archive("good bye", a, b, c));
         due.same("remove", y.remove(98), 2);
         due.sameBytes("the others are as they were, the remark too", Due.file(y),
             new Bytes().local(a).local(b).local(c).directory("good bye", a, c).all());
@@ -277,7 +278,7 @@ public final class ArchiveTest {
             // An end that gets wide needs 76 bytes more, a part of the directory gives 47.
             Bytes.Item a = new Bytes.Item("a", 0, false, new byte[0], 0);
             byte[] junk = new byte[1600 - 31 - 98 + over];
-            ZipArray x = Due.lying(new Bytes().local(a).raw(junk).directory("", a).all());
+            Zip x = Due.lying(new Bytes().local(a).raw(junk).directory("", a).all());
             byte[] before = Due.file(x);
             x.wide(true);
             due.throwsIt("none of that name is told first", NoSuchElementException.class, () -> x.remove(98));
@@ -295,7 +296,7 @@ public final class ArchiveTest {
     }
 
     private static void load() {
-        ZipArray x = Due.holding(HELLO);
+        Zip x = Due.holding(HELLO);
         x.create();
         x.add(97, 0, false);
         x.add(98, 8, true);
@@ -322,7 +323,7 @@ public final class ArchiveTest {
     }
 
     private static void count() {
-        ZipArray x = new ZipArray();
+        Zip x = new Zip();
         x.create();
         due.same("count", x.count(), 0);
         for (int i = 0; i < 8; i++) {
@@ -336,7 +337,7 @@ public final class ArchiveTest {
     private static void about() {
         Bytes.Item a = new Bytes.Item("abc", 8, true, HELLO, 3);
         Bytes.Item b = new Bytes.Item("d", 0, false, Due.text("1"), 3 + new Bytes().local(a).size());
-        ZipArray x = Due.lying(new Bytes().text("...").local(a).local(b).directory("r", a, b).all());
+        Zip x = Due.lying(new Bytes().text("...").local(a).local(b).directory("r", a, b).all());
         long[][] want = {{0x616263, 8, 8, (int) a.crc, a.packedSize, HELLO.length, 3},
             {100, 0, 0, (int) b.crc, 1, 1, b.offset}};
         due.is("a CRC is below 0", (int) b.crc < 0 || (int) a.crc < 0);
@@ -361,7 +362,7 @@ public final class ArchiveTest {
     private static void noArchive() {
         byte[] two = new Bytes().end(1, 0, 0, "").all();
         for (byte[] file : new byte[][] {{}, new byte[22], two}) {
-            ZipArray x = Due.lying(file);
+            Zip x = Due.lying(file);
             x.fill(5, 5);
             String what = "no archive of " + file.length + ": ";
             due.same(what, x.check(), file == two ? 2 : 1);
@@ -378,7 +379,7 @@ public final class ArchiveTest {
     }
 
     private static void theLibraryReadsIt() throws IOException {
-        ZipArray x = Due.holding(HELLO);
+        Zip x = Due.holding(HELLO);
         x.create();
         x.add(97, 8, false);
         x.add(98, 8, true);
@@ -390,5 +391,19 @@ public final class ArchiveTest {
             due.sameBytes("the library reads " + name, in.readAllBytes(), HELLO);
         }
         due.is("the library finds no more", in.getNextEntry() == null);
+    }
+
+    private static void asTheReadmeSays() {
+        Zip x = new Zip();
+        x.create();
+        x.fill(97, 50);
+        x.add(0x6161, 8, false);
+        x.clear();
+        due.answers("README: load", 50, () -> x.load(0x6161));
+        due.answers("README: check", 0, x::check);
+        due.answers("README: packed size", 5, () -> x.about(0, 4));
+        x.clear();
+        x.give(0x616263, 3);
+        due.sameBytes("README: give", Due.buffer(x), Due.text("abc"));
     }
 }

@@ -25,7 +25,7 @@ public final class BufferEdgesTest {
         due.finish();
     }
 
-    private static Supplier<ZipArray> filled(int n) {
+    private static Supplier<Zip> filled(int n) {
         return () -> Due.holding(Due.times(7, n));
     }
 
@@ -55,7 +55,7 @@ public final class BufferEdgesTest {
 
     private static void atMost200() {
         due.sentence("THE BUFFER has at most 200 bytes");
-        ZipArray x = filled(200).get();
+        Zip x = filled(200).get();
         due.same("200", x.held(), 200);
         due.same("the last byte", x.at(199), 7);
         due.throwsIt("one more by give", IllegalStateException.class, () -> x.give(1, 1));
@@ -72,7 +72,7 @@ public final class BufferEdgesTest {
 
     private static void allAreBytes() {
         due.sentence("all 0 .. 255");
-        ZipArray x = new ZipArray();
+        Zip x = new Zip();
         x.give(-1L, 8);
         x.give(0, 8);
         x.give(Long.MIN_VALUE, 8);
@@ -83,7 +83,7 @@ public final class BufferEdgesTest {
             due.same("at " + i, x.at(i), want[i]);
         }
         for (int b = 0; b <= 255; b++) {
-            ZipArray y = new ZipArray();
+            Zip y = new Zip();
             y.fill(b, 1);
             y.give(b - 256, 1);
             due.same("a byte that is filled", y.at(0), b);
@@ -93,21 +93,21 @@ public final class BufferEdgesTest {
 
     private static void noneAtFirst() {
         due.sentence("Buffer and file are empty; not wide");
-        ZipArray x = new ZipArray();
+        Zip x = new Zip();
         due.same("held", x.held(), 0);
         due.same("length", x.length(), 0);
         due.same("crc", x.crc(), 0);
         due.same("check", x.check(), 1);
-        Refusal none = new Refusal(due, ZipArray::new);
+        Refusal none = new Refusal(due, Zip::new);
         none.of("at 0", IndexOutOfBoundsException.class, y -> y.at(0))
             .of("byteAt 0", IndexOutOfBoundsException.class, y -> y.byteAt(0))
             .of("poke 0", IndexOutOfBoundsException.class, y -> y.poke(0, 0))
             .of("cut 1", IllegalArgumentException.class, y -> y.cut(1))
-            .of("unpack", ArithmeticException.class, ZipArray::unpack)
+            .of("unpack", ArithmeticException.class, Zip::unpack)
             .of("add", UnsupportedOperationException.class, y -> y.add(97, 0, false))
             .of("remove", UnsupportedOperationException.class, y -> y.remove(97))
             .of("load", UnsupportedOperationException.class, y -> y.load(97))
-            .of("count", UnsupportedOperationException.class, ZipArray::count)
+            .of("count", UnsupportedOperationException.class, Zip::count)
             .of("about", UnsupportedOperationException.class, y -> y.about(0, 0));
         due.same("clear", x.clear(), 0);
         x.cut(0);
@@ -121,7 +121,7 @@ public final class BufferEdgesTest {
 
     private static void checksumOfFew() {
         due.sentence("r is -1 at first; for each byte r becomes ...; -1 - r in the end");
-        due.same("of none", new ZipArray().crc(), 0);
+        due.same("of none", new Zip().crc(), 0);
         for (int b = 0; b <= 255; b++) {
             byte[] one = {(byte) b};
             due.same("of byte " + b, Due.holding(one).crc(), Due.crcOf(one));
@@ -136,7 +136,7 @@ public final class BufferEdgesTest {
     private static void clearEmpties() {
         due.sentence("Empties the buffer: how many bytes it had");
         for (int n : new int[] {0, 1, 199, 200}) {
-            ZipArray x = filled(n).get();
+            Zip x = filled(n).get();
             x.put(5, 3);
             due.same("clear of " + n, x.clear(), n);
             due.same("clear again", x.clear(), 0);
@@ -153,7 +153,7 @@ public final class BufferEdgesTest {
         for (long number : new long[] {0x1122334455667788L, 0xf1e2d3c4b5a69788L, -1L, 0, Long.MIN_VALUE,
             Long.MAX_VALUE}) {
             for (int n = 1; n <= 8; n++) {
-                ZipArray x = filled(3).get();
+                Zip x = filled(3).get();
                 due.same("how many it has", x.give(number, n), 3 + n);
                 for (int i = 0; i < n; i++) {
                     due.same("byte " + i + " of " + n, x.at(3 + i), number >> 8 * (n - 1 - i) & 255);
@@ -183,7 +183,7 @@ public final class BufferEdgesTest {
             new Refusal(due, filled(201 - n)).of("201 by " + n, IllegalStateException.class, x -> x.give(3, some));
             new Refusal(due, filled(200)).of("at 200, " + n, IllegalStateException.class, x -> x.give(3, some));
         }
-        ZipArray x = filled(199).get();
+        Zip x = filled(199).get();
         due.throwsIt("two at 199", IllegalStateException.class, () -> x.give(3, 2));
         due.answers("then one", 200, () -> x.give(3, 1));
     }
@@ -203,9 +203,9 @@ public final class BufferEdgesTest {
 
     private static void fillHowOften() {
         due.sentence("IllegalArgumentException: b is not 0 .. 255, or n not 1 .. 200");
-        due.answers("n 1", 1, () -> new ZipArray().fill(9, 1));
-        due.answers("n 200", 200, () -> new ZipArray().fill(9, 200));
-        Refusal none = new Refusal(due, ZipArray::new);
+        due.answers("n 1", 1, () -> new Zip().fill(9, 1));
+        due.answers("n 200", 200, () -> new Zip().fill(9, 200));
+        Refusal none = new Refusal(due, Zip::new);
         Refusal full = new Refusal(due, filled(200));
         for (int n : new int[] {0, 201, -1, -200, 1600, FAR[0], FAR[1], FAR[2], FAR[3]}) {
             none.of("n " + n, IllegalArgumentException.class, x -> x.fill(9, n));
@@ -216,7 +216,7 @@ public final class BufferEdgesTest {
     private static void fillMoreThan200() {
         due.sentence("Puts a byte b so many times behind the buffer. IllegalStateException: there would be more than 200");
         for (int n : new int[] {1, 2, 100, 199}) {
-            ZipArray x = filled(200 - n).get();
+            Zip x = filled(200 - n).get();
             due.answers("just 200 by " + n, 200, () -> x.fill(9, n));
             due.same("the last of what was there", x.at(199 - n), 7);
             due.same("the first of the new ones", x.at(200 - n), 9);
@@ -224,7 +224,7 @@ public final class BufferEdgesTest {
             new Refusal(due, filled(201 - n)).of("201 by " + n, IllegalStateException.class, y -> y.fill(9, n));
             new Refusal(due, filled(200)).of("at 200, " + n, IllegalStateException.class, y -> y.fill(9, n));
         }
-        due.answers("just 200 by 200", 200, () -> new ZipArray().fill(9, 200));
+        due.answers("just 200 by 200", 200, () -> new Zip().fill(9, 200));
         new Refusal(due, filled(1)).of("201 by 200", IllegalStateException.class, y -> y.fill(9, 200));
     }
 
@@ -238,7 +238,7 @@ public final class BufferEdgesTest {
     private static void atNone() {
         due.sentence("Byte i of the buffer. IndexOutOfBoundsException: there is none");
         for (int n : new int[] {0, 1, 2, 199, 200}) {
-            ZipArray x = Due.holding(Due.noRepeats(30, n));
+            Zip x = Due.holding(Due.noRepeats(30, n));
             for (int i = 0; i < n; i++) {
                 due.same("at " + i, x.at(i), Due.noRepeats(30, n)[i] & 255);
             }
@@ -251,7 +251,7 @@ public final class BufferEdgesTest {
 
     private static void atBehindAShorterBuffer() {
         due.sentence("IndexOutOfBoundsException: there is none");
-        ZipArray x = filled(200).get();
+        Zip x = filled(200).get();
         x.pack();
         due.same("packed", x.held(), 5);
         due.throwsIt("at 5 of packed ones", IndexOutOfBoundsException.class, () -> x.at(5));

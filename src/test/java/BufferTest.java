@@ -15,7 +15,7 @@ public final class BufferTest {
     }
 
     private static void newObject() {
-        ZipArray x = new ZipArray();
+        Zip x = new Zip();
         due.same("new: held", x.held(), 0);
         due.same("new: length", x.length(), 0);
         due.same("new: check", x.check(), 1);
@@ -26,12 +26,12 @@ public final class BufferTest {
         x.add(97, 0, false);
         due.same("new is not wide: add", x.length(), 22 + 31 + 47);
         due.same("NONE", ZipArray.NONE, -1);
-        new ZipArray().fill(1, 5);
-        due.same("objects are apart", new ZipArray().held(), 0);
+        new Zip().fill(1, 5);
+        due.same("objects are apart", new Zip().held(), 0);
     }
 
     private static void clear() {
-        ZipArray x = new ZipArray();
+        Zip x = new Zip();
         due.same("clear of none", x.clear(), 0);
         x.fill(9, 200);
         x.put(1, 1);
@@ -43,7 +43,7 @@ public final class BufferTest {
     }
 
     private static void give() {
-        ZipArray x = new ZipArray();
+        Zip x = new Zip();
         due.same("give 3 of 8", x.give(0x0102030405060708L, 3), 3);
         due.sameBytes("lowest bytes, highest first", Due.buffer(x), new byte[] {6, 7, 8});
         due.same("give 8", x.give(0x80ff7f0102030405L, 8), 11);
@@ -66,7 +66,7 @@ public final class BufferTest {
     }
 
     private static void fill() {
-        ZipArray x = new ZipArray();
+        Zip x = new Zip();
         due.same("fill", x.fill(0, 1), 1);
         due.same("fill goes behind, and tells all", x.fill(255, 3), 4);
         due.sameBytes("filled", Due.buffer(x), new byte[] {0, -1, -1, -1});
@@ -82,11 +82,11 @@ public final class BufferTest {
         due.answers("fill up to 200", 200, () -> x.fill(1, 196));
         due.throwsIt("fill at 200", IllegalStateException.class, () -> x.fill(1, 1));
         due.throwsIt("fill at 200, b wrong too", IllegalArgumentException.class, () -> x.fill(-1, 1));
-        due.answers("fill 200 at once", 200, () -> new ZipArray().fill(7, 200));
+        due.answers("fill 200 at once", 200, () -> new Zip().fill(7, 200));
     }
 
     private static void at() {
-        ZipArray x = Due.holding(Due.text("abc"));
+        Zip x = Due.holding(Due.text("abc"));
         due.same("held", x.held(), 3);
         due.same("at 0", x.at(0), 97);
         due.same("at 2", x.at(2), 99);
@@ -98,13 +98,13 @@ public final class BufferTest {
     }
 
     private static void crc() {
-        due.same("crc of none", new ZipArray().crc(), 0);
+        due.same("crc of none", new Zip().crc(), 0);
         due.same("crc of 123456789", Due.holding(Due.text("123456789")).crc(), 0xcbf43926);
         Random random = new Random(7);
         for (int i = 0; i < 50; i++) {
             byte[] bytes = new byte[random.nextInt(201)];
             random.nextBytes(bytes);
-            ZipArray x = Due.holding(bytes);
+            Zip x = Due.holding(bytes);
             due.same("crc of " + Due.hex(bytes), x.crc(), Due.crcOf(bytes));
             due.same("crc leaves the buffer", x.held(), bytes.length);
         }

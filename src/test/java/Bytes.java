@@ -83,7 +83,7 @@ final class Bytes {
             flags = later ? 8 : 0;
             content = text;
             if (method == 8) {
-                ZipArray x = Due.holding(text);
+                Zip x = Due.holding(text);
                 x.pack();
                 content = Due.buffer(x);
             }

@@ -236,7 +236,7 @@ public final class CheckTest {
         b.packedSize = -1;
         b.offset = -1;
         checks("all in their order", 0, Bytes.archive("", b));
-        ZipArray x = Due.lying(Bytes.archive("", b));
+        Zip x = Due.lying(Bytes.archive("", b));
         due.answers("size is told", TEXT.length, () -> x.about(0, 5));
         due.answers("packed size is told", packedSize, () -> x.about(0, 4));
         due.answers("offset is told", 0, () -> x.about(0, 6));
@@ -470,7 +470,7 @@ public final class CheckTest {
         byte[] inFirst = new Bytes().local(out).directory("", in, out).all();
         checks("within the one before", 104, outFirst);
         checks("round the one before", 104, inFirst);
-        ZipArray x = Due.lying(outFirst);
+        Zip x = Due.lying(outFirst);
         due.answers("the first may be loaded", 33, () -> x.load(Due.name("o")));
         due.throwsIt("the second not", ArithmeticException.class, () -> x.load(Due.name("i")));
         x.poke(0, 0);
@@ -500,14 +500,14 @@ public final class CheckTest {
             new Bytes().raw(cut).local(after).directory("", later, after));
         checks("what should stand behind, in common with the one before", 104,
             new Bytes().raw(cut).local(after).directory("", after, later));
-        ZipArray y = Due.lying(new Bytes().raw(cut).local(after).directory("", later, after).all());
+        Zip y = Due.lying(new Bytes().raw(cut).local(after).directory("", later, after).all());
         due.throwsIt("in common with one that is wrong by 5", ArithmeticException.class, () -> y.load(Due.name("n")));
         Bytes.Item far = new Bytes.Item("f", 0, false, new byte[60], 0);
         far.content = new byte[0];
         Bytes.Item small = new Bytes.Item("s", 0, false, Due.text("x"), 31);
         byte[] tooFar = new Bytes().local(far).local(small).directory("", far, small).all();
         checks("one that goes beyond", 4, tooFar);
-        ZipArray z = Due.lying(tooFar);
+        Zip z = Due.lying(tooFar);
         due.throwsIt("in common with one that goes beyond", ArithmeticException.class, () -> z.load(Due.name("s")));
     }
 
@@ -631,7 +631,7 @@ public final class CheckTest {
             e.size--;
             e.localSize--;
         }));
-        ZipArray x = Due.lying(right);
+        Zip x = Due.lying(right);
         x.fill(1, 7);
         due.same("check", x.check(), 0);
         due.same("check leaves the buffer", x.held(), 7);

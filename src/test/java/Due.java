@@ -83,7 +83,7 @@ final class Due {
     }
 
     /** The bytes of the file. */
-    static byte[] file(ZipArray x) {
+    static byte[] file(Zip x) {
         byte[] all = new byte[x.length()];
         for (int i = 0; i < all.length; i++) {
             all[i] = (byte) x.byteAt(i);
@@ -92,7 +92,7 @@ final class Due {
     }
 
     /** The bytes of the buffer. */
-    static byte[] buffer(ZipArray x) {
+    static byte[] buffer(Zip x) {
         byte[] all = new byte[x.held()];
         for (int i = 0; i < all.length; i++) {
             all[i] = (byte) x.at(i);
@@ -101,13 +101,13 @@ final class Due {
     }
 
     /** An object whose buffer has these bytes. */
-    static ZipArray holding(byte[] bytes) {
-        ZipArray x = new ZipArray();
+    static Zip holding(byte[] bytes) {
+        Zip x = new Zip();
         hold(x, bytes);
         return x;
     }
 
-    static void hold(ZipArray x, byte[] bytes) {
+    static void hold(Zip x, byte[] bytes) {
         x.clear();
         for (int from = 0; from < bytes.length; from += 8) {
             x.give(highestFirst(bytes, from), Math.min(8, bytes.length - from));
@@ -115,13 +115,13 @@ final class Due {
     }
 
     /** An object whose file has these bytes. */
-    static ZipArray lying(byte[] bytes) {
-        ZipArray x = new ZipArray();
+    static Zip lying(byte[] bytes) {
+        Zip x = new Zip();
         lay(x, bytes);
         return x;
     }
 
-    static void lay(ZipArray x, byte[] bytes) {
+    static void lay(Zip x, byte[] bytes) {
         x.cut(0);
         for (int from = 0; from < bytes.length; from += 8) {
             x.put(highestFirst(bytes, from), Math.min(8, bytes.length - from));

@@ -22,18 +22,18 @@ public final class FileEdgesTest {
         due.finish();
     }
 
-    private static Supplier<ZipArray> filled(int n) {
+    private static Supplier<Zip> filled(int n) {
         return () -> Due.lying(Due.times(7, n));
     }
 
     private static void atMost1600() {
         due.sentence("THE FILE at most 1600");
-        ZipArray x = filled(1600).get();
+        Zip x = filled(1600).get();
         due.same("1600", x.length(), 1600);
         due.same("the last byte", x.byteAt(1599), 7);
         due.throwsIt("one more", IllegalStateException.class, () -> x.put(1, 1));
         byte[] end = new Bytes().raw(new byte[1578]).end(0, 0, 1578, "").all();
-        ZipArray y = Due.lying(end);
+        Zip y = Due.lying(end);
         due.answers("an archive of 1600", 0, y::check);
         due.answers("an archive of 1600", 0, y::count);
         due.throwsIt("one entry more", IllegalStateException.class, () -> y.add(97, 0, false));
@@ -41,7 +41,7 @@ public final class FileEdgesTest {
 
     private static void allAreBytes() {
         due.sentence("all 0 .. 255");
-        ZipArray x = new ZipArray();
+        Zip x = new Zip();
         x.put(-1L, 8);
         x.put(Long.MIN_VALUE, 8);
         due.sameBytes("put", Due.file(x), new Bytes().n(-1, 8).n(0x80, 8).all());
@@ -56,11 +56,11 @@ public final class FileEdgesTest {
     private static void lengthHowMany() {
         due.sentence("How many bytes the file has");
         for (int n : new int[] {0, 1, 1599, 1600}) {
-            ZipArray x = filled(n).get();
+            Zip x = filled(n).get();
             x.fill(1, 5);
             due.same("length", x.length(), n);
         }
-        ZipArray x = filled(1600).get();
+        Zip x = filled(1600).get();
         x.create();
         due.same("of a new archive", x.length(), 22);
         x.cut(0);
@@ -70,7 +70,7 @@ public final class FileEdgesTest {
     private static void byteAtNone() {
         due.sentence("Byte k of the file. IndexOutOfBoundsException: there is none");
         for (int n : new int[] {0, 1, 2, 1599, 1600}) {
-            ZipArray x = Due.lying(Due.noRepeats(60, n));
+            Zip x = Due.lying(Due.noRepeats(60, n));
             for (int k : new int[] {0, 1, n / 2, n - 2, n - 1}) {
                 if (k >= 0 && k < n) {
                     due.answers("byte " + k, Due.noRepeats(60, n)[k] & 255, () -> x.byteAt(k));
@@ -81,7 +81,7 @@ public final class FileEdgesTest {
                 some.of("byte " + k + " of " + n, IndexOutOfBoundsException.class, y -> y.byteAt(k));
             }
         }
-        ZipArray x = filled(1600).get();
+        Zip x = filled(1600).get();
         x.create();
         due.answers("the last of a shorter file", 0, () -> x.byteAt(21));
         due.throwsIt("behind a shorter file", IndexOutOfBoundsException.class, () -> x.byteAt(22));
@@ -92,7 +92,7 @@ public final class FileEdgesTest {
         for (int n : new int[] {0, 1, 1599, 1600}) {
             for (int k : new int[] {0, n - 1}) {
                 if (k >= 0 && k < n) {
-                    ZipArray x = filled(n).get();
+                    Zip x = filled(n).get();
                     x.poke(k, 8);
                     for (int i : new int[] {0, 1, n / 2, n - 2, n - 1}) {
                         if (i >= 0 && i < n) {
@@ -114,7 +114,7 @@ public final class FileEdgesTest {
     private static void pokeByte() {
         due.sentence("IllegalArgumentException: b is not 0 .. 255");
         for (int b : new int[] {0, 255}) {
-            ZipArray x = filled(2).get();
+            Zip x = filled(2).get();
             x.poke(1, b);
             due.same("poke of " + b, x.byteAt(1), b);
         }
@@ -130,7 +130,7 @@ public final class FileEdgesTest {
         for (long number : new long[] {0x1122334455667788L, 0xf1e2d3c4b5a69788L, -1L, 0, Long.MIN_VALUE,
             Long.MAX_VALUE}) {
             for (int n = 1; n <= 8; n++) {
-                ZipArray x = filled(3).get();
+                Zip x = filled(3).get();
                 due.same("how many it has", x.put(number, n), 3 + n);
                 for (int i = 0; i < n; i++) {
                     due.same("byte " + i + " of " + n, x.byteAt(3 + i), number >> 8 * (n - 1 - i) & 255);
@@ -161,7 +161,7 @@ public final class FileEdgesTest {
             new Refusal(due, filled(1601 - n)).of("1601 by " + n, IllegalStateException.class, x -> x.put(3, some));
             new Refusal(due, filled(1600)).of("at 1600, " + n, IllegalStateException.class, x -> x.put(3, some));
         }
-        ZipArray x = filled(1599).get();
+        Zip x = filled(1599).get();
         due.throwsIt("two at 1599", IllegalStateException.class, () -> x.put(3, 2));
         due.answers("then one", 1600, () -> x.put(3, 1));
     }
@@ -169,7 +169,7 @@ public final class FileEdgesTest {
     private static void cutKeepsFirst() {
         due.sentence("The file keeps its first n bytes");
         for (int n : new int[] {0, 1, 2, 99, 100}) {
-            ZipArray x = Due.lying(Due.noRepeats(40, 100));
+            Zip x = Due.lying(Due.noRepeats(40, 100));
             x.fill(1, 4);
             x.cut(n);
             due.sameBytes("cut to " + n, Due.file(x), Arrays.copyOf(Due.noRepeats(40, 100), n));
@@ -178,7 +178,7 @@ public final class FileEdgesTest {
             due.same("put behind the cut", x.put(5, 1), n + 1);
             due.same("put behind the cut", x.byteAt(n), 5);
         }
-        ZipArray x = filled(1600).get();
+        Zip x = filled(1600).get();
         x.cut(1600);
         due.same("all of 1600", x.length(), 1600);
         x.cut(1599);
@@ -193,7 +193,7 @@ public final class FileEdgesTest {
                 some.of("cut " + more + " of " + n, IllegalArgumentException.class, x -> x.cut(more));
             }
         }
-        ZipArray x = filled(20).get();
+        Zip x = filled(20).get();
         x.cut(10);
         due.throwsDeed("what was cut off is not there", IllegalArgumentException.class, () -> x.cut(11));
         due.same("what was cut off is not there", x.length(), 10);

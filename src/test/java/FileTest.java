@@ -11,7 +11,7 @@ public final class FileTest {
     }
 
     private static void put() {
-        ZipArray x = new ZipArray();
+        Zip x = new Zip();
         due.same("length of none", x.length(), 0);
         due.same("put 2", x.put(0x010203L, 2), 2);
         due.same("put 8", x.put(0xfedcba9876543210L, 8), 10);
@@ -37,7 +37,7 @@ public final class FileTest {
     }
 
     private static void byteAt() {
-        ZipArray x = Due.lying(new byte[] {1, (byte) 200, 3});
+        Zip x = Due.lying(new byte[] {1, (byte) 200, 3});
         due.same("byte 0", x.byteAt(0), 1);
         due.same("byte 1", x.byteAt(1), 200);
         due.same("byte 2", x.byteAt(2), 3);
@@ -47,7 +47,7 @@ public final class FileTest {
     }
 
     private static void poke() {
-        ZipArray x = Due.lying(new byte[] {1, 2, 3});
+        Zip x = Due.lying(new byte[] {1, 2, 3});
         x.poke(1, 255);
         x.poke(2, 0);
         due.sameBytes("poked", Due.file(x), new byte[] {1, -1, 0});
@@ -62,7 +62,7 @@ public final class FileTest {
     }
 
     private static void cut() {
-        ZipArray x = Due.lying(new byte[] {1, 2, 3, 4});
+        Zip x = Due.lying(new byte[] {1, 2, 3, 4});
         due.throwsDeed("cut -1", IllegalArgumentException.class, () -> x.cut(-1));
         due.throwsDeed("cut 5", IllegalArgumentException.class, () -> x.cut(5));
         due.throwsDeed("cut least", IllegalArgumentException.class, () -> x.cut(Integer.MIN_VALUE));

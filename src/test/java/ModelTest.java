@@ -11,10 +11,9 @@ public final class ModelTest {
     private static final int[] seen = new int[1000];
 
     private final Random random;
-    private final ZipArray x = new ZipArray();
+    private final Zip x = new Zip();
     private final Model model = new Model();
     private final StringBuilder calls = new StringBuilder();
-    private int made;
     // Behind the first answer that is not as due, the two are in two states.
     private boolean apart;
 
@@ -24,7 +23,7 @@ public final class ModelTest {
     }
 
     public static void main(String[] args) {
-        int runs = args.length > 0 ? Integer.parseInt(args[0]) : 600;
+        int runs = args.length > 0 ? Integer.parseInt(args[0]) : 1000;
         int from = args.length > 1 ? Integer.parseInt(args[1]) : 1;
         for (int seed = from; seed < from + runs; seed++) {
             new ModelTest(seed).run();
@@ -54,7 +53,8 @@ public final class ModelTest {
                 create();
         }
         int most = 30 + random.nextInt(80);
-        for (int i = 0; i < most && made < 480 && !apart; i++) {
+        // One step makes some 220 changes at most, and there must be calls left to look at the file.
+        for (int i = 0; i < most && x.changes() < 240 && !apart; i++) {
             step();
         }
         if (!apart) {
@@ -91,7 +91,6 @@ public final class ModelTest {
 
     private Object both(String what, Due.Call one, Due.Call other) {
         calls.append(what).append("; ");
-        made++;
         Object got = answer(one);
         Object want = answer(other);
         if (!apart) {
@@ -102,19 +101,19 @@ public final class ModelTest {
     }
 
     private void lay(byte[] bytes) {
-        cut(0);
-        for (int i = 0; i < bytes.length; i++) {
-            x.put(bytes[i], 1);
-            model.put(bytes[i], 1);
+        Due.lay(x, bytes);
+        model.cut(0);
+        for (byte b : bytes) {
+            model.put(b, 1);
         }
         calls.append("file ").append(Due.hex(bytes)).append("; ");
     }
 
     private void hold(byte[] bytes) {
-        both("clear", x::clear, model::clear);
-        for (int i = 0; i < bytes.length && i < 200; i++) {
-            x.give(bytes[i], 1);
-            model.give(bytes[i], 1);
+        Due.hold(x, bytes);
+        model.clear();
+        for (byte b : bytes) {
+            model.give(b, 1);
         }
         calls.append("buffer ").append(Due.hex(bytes)).append("; ");
     }

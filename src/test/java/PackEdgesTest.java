@@ -28,7 +28,7 @@ public final class PackEdgesTest {
     /** The packed bytes, by pack and, as those may be more than 200, by an entry. */
     private static void packs(String what, byte[] bytes, Bits bits) {
         byte[] want = bits.bytes();
-        ZipArray x = Due.holding(bytes);
+        Zip x = Due.holding(bytes);
         if (want.length <= 200) {
             due.answers(what, want.length, x::pack);
             due.sameBytes(what, Due.buffer(x), want);
@@ -40,7 +40,7 @@ public final class PackEdgesTest {
         x.create();
         x.add(97, 8, false);
         due.same(what + ", in an entry", x.about(0, 4), want.length);
-        ZipArray y = Due.holding(bytes);
+        Zip y = Due.holding(bytes);
         y.create();
         y.add(97, 8, false);
         due.sameBytes(what + ", in an entry", Arrays.copyOfRange(Due.file(y), 31, 31 + want.length), want);
@@ -75,7 +75,7 @@ public final class PackEdgesTest {
     private static void oneBlock() {
         due.sentence("TO PACK: one block, of kind 1; in the end 256");
         packs("nothing", new byte[0], begin().symbol(256));
-        ZipArray x = new ZipArray();
+        Zip x = new Zip();
         x.pack();
         due.sameBytes("nothing", Due.buffer(x), new byte[] {3, 0});
         packs("one byte", new byte[] {5}, begin().symbol(5).symbol(256));
@@ -120,7 +120,7 @@ public final class PackEdgesTest {
         packs("not beyond the end", Due.text("abcdefabc"), repeat(begin().text(Due.text("abcdef")), 3, 6).symbol(256));
         packs("two bytes are left", Due.text("abcdefab"), begin().text(Due.text("abcdefab")).symbol(256));
         // What the row still has of a longer content must not be found behind the end.
-        ZipArray x = Due.holding(Due.text("abcdabcd"));
+        Zip x = Due.holding(Due.text("abcdabcd"));
         x.clear();
         x.give(0x616263646162L, 6);
         x.pack();
@@ -188,7 +188,7 @@ public final class PackEdgesTest {
             for (int low = 110; low <= 112; low++) {
                 byte[] bytes = joined(Due.noRepeats(0, low), Due.noRepeats(144, high));
                 int packed = (3 + 8 * low + 9 * high + 7 + 7) / 8;
-                ZipArray x = Due.holding(bytes);
+                Zip x = Due.holding(bytes);
                 if (packed <= 200) {
                     due.answers(low + " and " + high, packed, x::pack);
                     due.same("held", x.held(), packed);
@@ -203,17 +203,17 @@ public final class PackEdgesTest {
         due.answers("1600 bits", 200, () -> Due.holding(just).pack());
         byte[] over = joined(Due.noRepeats(0, 110), Due.noRepeats(144, 79));
         due.same("1601 bits", 3 + 8 * 110 + 9 * 79 + 7, 1601);
-        new Refusal(due, () -> Due.holding(over)).of("1601 bits", IllegalStateException.class, ZipArray::pack);
+        new Refusal(due, () -> Due.holding(over)).of("1601 bits", IllegalStateException.class, Zip::pack);
         byte[] most = Due.noRepeats(144, 200);
         packs("most bits that can be", most, begin().text(most).symbol(256));
-        new Refusal(due, () -> Due.holding(most)).of("most bits", IllegalStateException.class, ZipArray::pack);
+        new Refusal(due, () -> Due.holding(most)).of("most bits", IllegalStateException.class, Zip::pack);
         new Refusal(due, () -> {
-            ZipArray x = Due.holding(Due.text("some"));
+            Zip x = Due.holding(Due.text("some"));
             x.create();
             x.add(97, 0, true);
             Due.hold(x, most);
             x.wide(true);
             return x;
-        }).of("most bits beside an archive", IllegalStateException.class, ZipArray::pack);
+        }).of("most bits beside an archive", IllegalStateException.class, Zip::pack);
     }
 }

@@ -16,7 +16,7 @@ public final class PackTest {
     }
 
     private static void packs(String what, byte[] bytes, Bits want) {
-        ZipArray x = Due.holding(bytes);
+        Zip x = Due.holding(bytes);
         byte[] packed = want.bytes();
         due.answers(what, packed.length, x::pack);
         due.sameBytes(what, Due.buffer(x), packed);
@@ -65,7 +65,7 @@ public final class PackTest {
             }
             bytes[d + 1] = 1;
             bytes[d + 2] = 2;
-            ZipArray x = Due.holding(bytes);
+            Zip x = Due.holding(bytes);
             Bits want = new Bits().fixed(true).text(java.util.Arrays.copyOf(bytes, d)).symbol(257);
             byte[] packed = distance(want, d).symbol(256).bytes();
             if (packed.length <= 200) {
@@ -111,19 +111,19 @@ public final class PackTest {
 
     private static void limit() {
         // 3 + 8 n + 9 m + 7 bits: 1600 just fill 200 bytes.
-        ZipArray just = Due.holding(plain(108, 74));
+        Zip just = Due.holding(plain(108, 74));
         int bits = 3 + 8 * 108 + 9 * 74 + 7;
         due.answers("below the limit", (bits + 7) / 8, just::pack);
-        ZipArray full = Due.holding(plain(120, 70));
+        Zip full = Due.holding(plain(120, 70));
         due.same("1600 bits", 3 + 8 * 120 + 9 * 70 + 7, 1600);
         due.answers("200 bytes", 200, full::pack);
         due.same("200 held", full.held(), 200);
-        ZipArray over = Due.holding(plain(119, 71));
+        Zip over = Due.holding(plain(119, 71));
         due.same("1601 bits", 3 + 8 * 119 + 9 * 71 + 7, 1601);
         byte[] before = Due.buffer(over);
         due.throwsIt("201 bytes", IllegalStateException.class, over::pack);
         due.sameBytes("a throw leaves the buffer", Due.buffer(over), before);
-        ZipArray most = Due.holding(plain(88, 112));
+        Zip most = Due.holding(plain(88, 112));
         due.throwsIt("most bytes", IllegalStateException.class, most::pack);
         due.same("a throw leaves the buffer", most.held(), 200);
     }
@@ -136,7 +136,7 @@ public final class PackTest {
             for (int i = 0; i < bytes.length; i++) {
                 bytes[i] = (byte) random.nextInt(kinds);
             }
-            ZipArray x = Due.holding(bytes);
+            Zip x = Due.holding(bytes);
             int n = x.pack();
             due.same("pack tells what it holds", x.held(), n);
             Inflater inflater = new Inflater(true);

@@ -8,15 +8,15 @@ final class Refusal {
     private static final int BYTES_AT_ONCE = 250;
 
     private interface Probe {
-        void ask(ZipArray x, List<String> told);
+        void ask(Zip x, List<String> told);
     }
 
     private final Due due;
-    private final Supplier<ZipArray> made;
+    private final Supplier<Zip> made;
     private final List<Probe> probes = new ArrayList<>();
 
     /** For calls on objects that are made like this one, again for each question that follows. */
-    Refusal(Due due, Supplier<ZipArray> made) {
+    Refusal(Due due, Supplier<Zip> made) {
         this.due = due;
         this.made = made;
         probes.add(Refusal::askBuffer);
@@ -38,9 +38,9 @@ final class Refusal {
     }
 
     /** The call throws this, and what is asked next is answered as on an object that has not made it. */
-    Refusal of(String what, Class<? extends RuntimeException> first, Consumer<ZipArray> call) {
+    Refusal of(String what, Class<? extends RuntimeException> first, Consumer<Zip> call) {
         for (int i = 0; i < probes.size(); i++) {
-            ZipArray one = made.get();
+            Zip one = made.get();
             due.throwsDeed(what, first, () -> call.accept(one));
             List<String> got = new ArrayList<>();
             List<String> want = new ArrayList<>();
@@ -59,7 +59,7 @@ final class Refusal {
         }
     }
 
-    private static void askBuffer(ZipArray x, List<String> told) {
+    private static void askBuffer(Zip x, List<String> told) {
         int n = x.held();
         tell(told, x::held);
         tell(told, x::crc);
@@ -70,7 +70,7 @@ final class Refusal {
         tell(told, x::clear);
     }
 
-    private static void askFile(ZipArray x, List<String> told, int from) {
+    private static void askFile(Zip x, List<String> told, int from) {
         tell(told, x::length);
         for (int i = from; i < from + BYTES_AT_ONCE; i++) {
             int one = i;
@@ -78,7 +78,7 @@ final class Refusal {
         }
     }
 
-    private static void askArchive(ZipArray x, List<String> told) {
+    private static void askArchive(Zip x, List<String> told) {
         tell(told, x::check);
         tell(told, x::count);
         for (int k = 0; k <= 8; k++) {
@@ -90,7 +90,7 @@ final class Refusal {
         }
     }
 
-    private static List<Integer> names(ZipArray x) {
+    private static List<Integer> names(Zip x) {
         List<Integer> all = new ArrayList<>();
         for (int k = 0; k < 8; k++) {
             try {
@@ -102,7 +102,7 @@ final class Refusal {
         return all;
     }
 
-    private static void askLoads(ZipArray x, List<String> told) {
+    private static void askLoads(Zip x, List<String> told) {
         for (int name : names(x)) {
             tell(told, () -> x.load(name));
             tell(told, x::held);
@@ -110,14 +110,14 @@ final class Refusal {
         }
     }
 
-    private static void askPacking(ZipArray x, List<String> told) {
+    private static void askPacking(Zip x, List<String> told) {
         tell(told, x::pack);
         tell(told, x::crc);
         tell(told, x::unpack);
         tell(told, x::crc);
     }
 
-    private static void askRoom(ZipArray x, List<String> told) {
+    private static void askRoom(Zip x, List<String> told) {
         for (int i = 0; i < 2; i++) {
             tell(told, () -> x.give(1, 1));
             tell(told, () -> x.put(1, 1));
@@ -125,14 +125,14 @@ final class Refusal {
         }
     }
 
-    private static void askAdds(ZipArray x, List<String> told, int method, boolean later) {
+    private static void askAdds(Zip x, List<String> told, int method, boolean later) {
         tell(told, () -> x.add(0x7a7a7a, method, later));
         tell(told, x::length);
         askArchive(x, told);
         tell(told, () -> x.load(0x7a7a7a));
     }
 
-    private static void askRemoves(ZipArray x, List<String> told) {
+    private static void askRemoves(Zip x, List<String> told) {
         for (int name : names(x)) {
             tell(told, () -> x.remove(name));
             tell(told, x::length);
@@ -140,7 +140,7 @@ final class Refusal {
         }
     }
 
-    private static void askWidth(ZipArray x, List<String> told) {
+    private static void askWidth(Zip x, List<String> told) {
         x.create();
         tell(told, x::length);
         tell(told, x::check);
@@ -148,7 +148,7 @@ final class Refusal {
         tell(told, x::length);
     }
 
-    private static void askEnds(ZipArray x, List<String> told) {
+    private static void askEnds(Zip x, List<String> told) {
         int n = x.length();
         if (n > 0) {
             tell(told, () -> {

@@ -40,11 +40,11 @@ public final class UnpackEdgesTest {
     private static void gives(String what, Bits packed, byte[] want) {
         byte[] bytes = packed.bytes();
         if (bytes.length <= 200) {
-            ZipArray x = Due.holding(bytes);
+            Zip x = Due.holding(bytes);
             due.answers(what, want.length, x::unpack);
             due.sameBytes(what, Due.buffer(x), want);
         }
-        ZipArray y = Due.lying(entry(bytes, want));
+        Zip y = Due.lying(entry(bytes, want));
         due.answers(what + ", in an entry", 0, y::check);
         due.answers(what + ", in an entry", want.length, () -> y.load(97));
         due.sameBytes(what + ", in an entry", Due.buffer(y), want);
@@ -56,11 +56,11 @@ public final class UnpackEdgesTest {
 
     private static void wrong(String what, byte[] bytes) {
         if (bytes.length <= 200) {
-            ZipArray x = Due.holding(bytes);
+            Zip x = Due.holding(bytes);
             due.throwsIt(what, ArithmeticException.class, x::unpack);
             due.sameBytes(what + ": a throw leaves the buffer", Due.buffer(x), bytes);
         }
-        ZipArray y = Due.lying(entry(bytes, new byte[0]));
+        Zip y = Due.lying(entry(bytes, new byte[0]));
         due.answers(what + ", in an entry", 6, y::check);
         due.throwsIt(what + ", in an entry", ArithmeticException.class, () -> y.load(97));
     }
@@ -71,7 +71,7 @@ public final class UnpackEdgesTest {
         for (int n = 0; n < all.length; n++) {
             byte[] some = Arrays.copyOf(all, n);
             wrong(what + ", " + n + " bytes of " + all.length, some);
-            ZipArray x = Due.holding(all);
+            Zip x = Due.holding(all);
             Due.hold(x, some);
             due.throwsIt(what + ", the others were there before", ArithmeticException.class, x::unpack);
             due.sameBytes(what + ": a throw leaves the buffer", Due.buffer(x), some);
@@ -80,7 +80,7 @@ public final class UnpackEdgesTest {
             e.content = some;
             e.packedSize = n;
             e.localPackedSize = n;
-            ZipArray y = Due.lying(new Bytes().local(e).raw(Arrays.copyOfRange(all, n, all.length)).directory("", e).all());
+            Zip y = Due.lying(new Bytes().local(e).raw(Arrays.copyOfRange(all, n, all.length)).directory("", e).all());
             due.answers(what + ", the others stand behind", 6, y::check);
         }
     }
@@ -711,11 +711,11 @@ public final class UnpackEdgesTest {
                 .bytes()};
         for (byte[] bytes : some) {
             new Refusal(due, () -> {
-                ZipArray x = Due.holding(bytes);
+                Zip x = Due.holding(bytes);
                 x.create();
                 x.add(97, 8, false);
                 return x;
-            }).of(Due.hex(bytes), ArithmeticException.class, ZipArray::unpack);
+            }).of(Due.hex(bytes), ArithmeticException.class, Zip::unpack);
         }
     }
 }

@@ -26,7 +26,7 @@ public final class UnpackTest {
     }
 
     private static void gives(String what, byte[] packed, byte[] want) {
-        ZipArray x = Due.holding(packed);
+        Zip x = Due.holding(packed);
         due.answers(what, want.length, x::unpack);
         due.sameBytes(what, Due.buffer(x), want);
     }
@@ -36,7 +36,7 @@ public final class UnpackTest {
     }
 
     private static void wrong(String what, byte[] packed) {
-        ZipArray x = Due.holding(packed);
+        Zip x = Due.holding(packed);
         due.throwsIt(what, ArithmeticException.class, x::unpack);
         due.sameBytes(what + ": a throw leaves the buffer", Due.buffer(x), packed);
     }
@@ -354,7 +354,7 @@ public final class UnpackTest {
             byte[] bytes = new byte[200];
             random.nextBytes(bytes);
             bytes[0] = (byte) (bytes[0] & ~7 | round % 8);
-            ZipArray x = Due.holding(bytes);
+            Zip x = Due.holding(bytes);
             try {
                 due.is("unpack gives out at most 200", x.unpack() <= 200);
             } catch (ArithmeticException e) {

@@ -53,7 +53,7 @@ public final class WrongEdgesTest {
     // ---- helpers
 
     private static void checks(String what, int want, byte[] file) {
-        ZipArray x = Due.lying(file);
+        Zip x = Due.lying(file);
         due.answers(what, want, x::check);
         // Below 3 the archive is none; from 3 on it is one, and an entry is wrong.
         if (want == 1 || want == 2) {
@@ -526,7 +526,7 @@ public final class WrongEdgesTest {
             b.extras = Bytes.record(1, wides.all());
             byte[] file = Bytes.archive("", a, b);
             checks("wide numbers " + which, 0, file);
-            ZipArray x = Due.lying(file);
+            Zip x = Due.lying(file);
             due.answers("size", TEXT.length, () -> x.about(1, 5));
             due.answers("packed size", n, () -> x.about(1, 4));
             due.answers("offset", PART, () -> x.about(1, 6));
@@ -871,32 +871,32 @@ public final class WrongEdgesTest {
         Bytes.Item out = new Bytes.Item("o", 0, false, new Bytes().local(in).all(), 0);
         byte[] right = new Bytes().local(out).directory("", out, in).all();
         int inner = Due.name("i");
-        ZipArray three = Due.lying(poked(right, 0, 0));
+        Zip three = Due.lying(poked(right, 0, 0));
         due.same("wrong by 3", three.check(), 3);
         due.answers("in common with one that is wrong by 3", 2, () -> three.load(inner));
-        ZipArray other = Due.lying(poked(right, 30, 'x'));
+        Zip other = Due.lying(poked(right, 30, 'x'));
         due.same("wrong by 3", other.check(), 3);
         due.answers("in common with one that is wrong by 3, by its name", 2, () -> other.load(inner));
         Bytes.Item wrongSum = new Bytes.Item("o", 0, false, new Bytes().local(in).all(), 0);
         wrongSum.crc ^= 1;
         wrongSum.localCrc ^= 1;
-        ZipArray eight = Due.lying(new Bytes().local(wrongSum).directory("", wrongSum, in).all());
+        Zip eight = Due.lying(new Bytes().local(wrongSum).directory("", wrongSum, in).all());
         due.same("wrong by 8", eight.check(), 8);
         due.throwsIt("in common with one that is wrong by 8", ArithmeticException.class, () -> eight.load(inner));
         Bytes.Item stored = new Bytes.Item("o", 0, false, new Bytes().local(in).all(), 0);
         stored.size--;
         stored.localSize--;
-        ZipArray six = Due.lying(new Bytes().local(stored).directory("", stored, in).all());
+        Zip six = Due.lying(new Bytes().local(stored).directory("", stored, in).all());
         due.same("wrong by 6", six.check(), 6);
         due.throwsIt("in common with one that is wrong by 6", ArithmeticException.class, () -> six.load(inner));
         Bytes.Item behind = new Bytes.Item("o", 0, true, new Bytes().local(in).all(), 0);
         behind.behindCrc ^= 1;
-        ZipArray five = Due.lying(new Bytes().local(behind).directory("", behind, in).all());
+        Zip five = Due.lying(new Bytes().local(behind).directory("", behind, in).all());
         due.same("wrong by 5", five.check(), 5);
         due.throwsIt("in common with one that is wrong by 5", ArithmeticException.class, () -> five.load(inner));
         Bytes.Item beyond = new Bytes.Item("o", 0, false, new byte[50], 0);
         beyond.content = new Bytes().local(in).all();
-        ZipArray four = Due.lying(new Bytes().local(beyond).directory("", beyond, in).all());
+        Zip four = Due.lying(new Bytes().local(beyond).directory("", beyond, in).all());
         due.same("wrong by 4", four.check(), 4);
         due.throwsIt("in common with one that is wrong by 4", ArithmeticException.class, () -> four.load(inner));
         // The one in the middle is wrong by 4 itself, and still is before the last.
@@ -905,7 +905,7 @@ public final class WrongEdgesTest {
         Bytes.Item outer = new Bytes.Item("o", 0, false, new Bytes().local(middle).all(), 0);
         byte[] nested = new Bytes().local(outer).directory("", outer, middle, deep).all();
         due.same("the middle", Due.lying(nested).check(), 104);
-        ZipArray x = Due.lying(poked(nested, 0, 0));
+        Zip x = Due.lying(poked(nested, 0, 0));
         due.same("the outer one by 3", x.check(), 3);
         due.answers("the middle one is right then", 32, () -> x.load(Due.name("m")));
         due.throwsIt("the inner one is not", ArithmeticException.class, () -> x.load(Due.name("d")));
@@ -1087,7 +1087,7 @@ public final class WrongEdgesTest {
         byte[] right = Bytes.archive("rem", stored("a", 0), new Bytes.Item("b", 8, true, TEXT, PART));
         for (int k : new int[] {-1, 0, 31, PART + 31, right.length - 4}) {
             byte[] file = k < 0 ? right : poked(right, k, right[k] ^ 6);
-            ZipArray x = Due.lying(file);
+            Zip x = Due.lying(file);
             x.fill(5, 6);
             int told = x.check();
             due.is("wrong or not", k < 0 == (told == 0));
